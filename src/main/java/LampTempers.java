@@ -115,7 +115,7 @@ public final class LampTempers {
     private final Reader reader = new Reader();
     private final Machine machine = new Machine();
     private final Streets streets = new Streets(town);
-    private final Tempers tempers = new Tempers(town, machine);
+    private final Tempers tempers = new Tempers(town, machine, streets);
     private final Night nightly = new Night(town, streets, tempers);
     private final Chronicle chronicle = new Chronicle(town, streets, tempers, nightly);
     private final Guesses guesses = new Guesses(town, streets, nightly);
@@ -683,18 +683,19 @@ public final class LampTempers {
 
     /** What was found out of the town is forgotten as soon as the town is another one. */
     private void look() {
+        if (!changedSince) {
+            return;
+        }
         if (rebuilt) {
             streets.survey();
-            rebuilt = false;
         }
-        if (changedSince) {
-            tempers.heed();
-            nightly.load();
-            chronicle.forget();
-            guesses.forget();
-            planner.forget();
-            changedSince = false;
-        }
+        tempers.heed(rebuilt);
+        nightly.load();
+        chronicle.forget();
+        guesses.forget();
+        planner.forget();
+        changedSince = false;
+        rebuilt = false;
     }
 
     private int runClause(Text text, int clause, int before) {
@@ -1294,6 +1295,7 @@ public final class LampTempers {
     /** How far all corners are from one another, the lighter's round and a drunk's way. */
     private static final class Streets {
         private static final int NEVER = 1000000;
+        private static final int REACH = 10;
 
         /** The corners next to each one by ways, by ways that are not shuttered, as bits. */
         final int[] beside = new int[CORNERS];
@@ -1303,6 +1305,8 @@ public final class LampTempers {
         private final Town town;
         private final int[] stepsTo = new int[CORNERS * CORNERS];
         private final int[] sightTo = new int[CORNERS * CORNERS];
+        /** For each corner and reach the corners within, as bits; NONE: not looked at yet. */
+        private final int[] balls = new int[CORNERS * REACH];
         /** The corners that have lamps, each once, and for each lamp which of these is its own. */
         private final int[] stops = new int[LAMPS];
         private final int[] stopOf = new int[LAMPS];
@@ -1333,6 +1337,7 @@ public final class LampTempers {
                 spread(beside, corner, stepsTo, corner * CORNERS);
                 spread(open, corner, sightTo, corner * CORNERS);
             }
+            Arrays.fill(balls, NONE);
             isCosted = false;
             roundFrom = NONE;
         }
@@ -1367,14 +1372,21 @@ public final class LampTempers {
 
         /** The corners to which sight is no farther, as bits. */
         int within(int corner, int reach) {
-            int bits = 0;
-            for (int other = 0; other < CORNERS; other++) {
-                int far = sight(corner, other);
-                if (far != NONE && far <= reach) {
-                    bits |= 1 << other;
-                }
+            if (!isIn(corner, CORNERS) || !isIn(reach, REACH)) {
+                return 0;
             }
-            return bits;
+            int place = corner * REACH + reach;
+            if (balls[place] == NONE) {
+                int bits = 0;
+                for (int other = 0; other < CORNERS; other++) {
+                    int far = sight(corner, other);
+                    if (far != NONE && far <= reach) {
+                        bits |= 1 << other;
+                    }
+                }
+                balls[place] = bits;
+            }
+            return balls[place];
         }
 
         /** Some corners, as bits, and all that are next to them by a way. */
@@ -1508,58 +1520,104 @@ public final class LampTempers {
 
     /** What lamps and lanterns are like by the law in force. */
     private static final class Tempers {
-        private static final int MEMO_BITS = 13;
+        private static final int MEMO_BITS = 12;
         private static final int KEY_BITS = 25;
+        private static final int ANSWER_BITS = 4;
         private static final int LEAST = 0;
         private static final int MOST = 9;
 
         private final Town town;
         private final Machine machine;
+        private final Streets streets;
         private Text law = null;
         private int wind = 0;
         private int mood = 0;
         /** Answers found by the law, wind and mood of a generation: generation, question and answer in one. */
         private final long[] memo = new long[1 << MEMO_BITS];
         private long generation = 1;
+        /**
+         * For the town's own lamps, by minutes, if the law looks at those (else for all at 0); NONE: not asked yet.
+         * Whom a lamp shuns, if it burns since later (1) or not (0), as bits; who shuns a lantern of a kind at a
+         * corner, as bits; what a lamp drinks.
+         */
+        private final int[] hates = new int[MINUTES * 2 * LAMPS];
+        private final int[] fears = new int[MINUTES * KINDS * CORNERS];
+        private final int[] thirsts = new int[MINUTES * LAMPS];
 
-        Tempers(Town town, Machine machine) {
+        Tempers(Town town, Machine machine, Streets streets) {
             this.town = town;
             this.machine = machine;
+            this.streets = streets;
         }
 
-        void heed() {
+        void heed(boolean isRebuilt) {
             Text now = town.lawInForce();
-            if (now != law || wind != town.terms[WIND] || mood != town.terms[MOOD]) {
+            boolean isOther = now != law || wind != town.terms[WIND] || mood != town.terms[MOOD];
+            if (isOther) {
                 law = now;
                 wind = town.terms[WIND];
                 mood = town.terms[MOOD];
                 generation++;
             }
+            if (isOther || isRebuilt) {
+                int minutes = heeds(SHUNS, WORD_MINUTE) ? MINUTES : 1;
+                Arrays.fill(hates, 0, minutes * 2 * LAMPS, NONE);
+                Arrays.fill(fears, 0, minutes * KINDS * CORNERS, NONE);
+                Arrays.fill(thirsts, 0, heeds(DRINKS, WORD_MINUTE) ? MINUTES * LAMPS : LAMPS, NONE);
+            }
         }
 
-        /** Whether an answer may be another one in another minute. */
-        boolean heedsMinute(int what) {
-            return law != null && (law.used[what] >> WORD_MINUTE & 1) != 0;
+        /** Whether an answer may be another one for another number of a word. */
+        boolean heeds(int what, int word) {
+            return law != null && (law.used[what] >> word & 1) != 0;
         }
 
-        /** Whether one shuns another (1, 0), how far it reaches, what it drinks. */
+        int hated(int lamp, int later, int minute) {
+            int place = ((heeds(SHUNS, WORD_MINUTE) ? minute : 0) * 2 + later) * LAMPS + lamp;
+            if (hates[place] == NONE) {
+                int bits = 0;
+                for (int other = 0; other < town.lamps.size; other++) {
+                    int near = streets.sight(town.lamps.get(lamp, CORNER), town.lamps.get(other, CORNER));
+                    if (other != lamp && ask(SHUNS, lamp, town.lamps.get(lamp, KIND), town.lamps.get(other, KIND),
+                            near, later, minute) != 0) {
+                        bits |= 1 << other;
+                    }
+                }
+                hates[place] = bits;
+            }
+            return hates[place];
+        }
+
+        int fearful(int kind, int corner, int minute) {
+            int place = ((heeds(SHUNS, WORD_MINUTE) ? minute : 0) * KINDS + kind) * CORNERS + corner;
+            if (fears[place] == NONE) {
+                int bits = 0;
+                for (int lamp = 0; lamp < town.lamps.size; lamp++) {
+                    int near = streets.sight(town.lamps.get(lamp, CORNER), corner);
+                    if (ask(SHUNS, lamp, town.lamps.get(lamp, KIND), kind, near, 1, minute) != 0) {
+                        bits |= 1 << lamp;
+                    }
+                }
+                fears[place] = bits;
+            }
+            return fears[place];
+        }
+
+        int thirst(int lamp, int minute) {
+            int place = (heeds(DRINKS, WORD_MINUTE) ? minute : 0) * LAMPS + lamp;
+            if (thirsts[place] == NONE) {
+                thirsts[place] = ask(DRINKS, lamp, town.lamps.get(lamp, KIND), NONE, NONE, NONE, minute);
+            }
+            return thirsts[place];
+        }
+
+        /**
+         * Whether one shuns another (1, 0), how far it reaches, what it drinks: by the last clause that holds;
+         * for who shuns whom any one does.
+         */
         int ask(int what, int lamp, int kind, int other, int near, int later, int minute) {
             if (law == null) {
                 return what != SHUNS || kind == other && (near == 0 || near == 1) ? 1 : 0;
-            }
-            // A word that the clauses don't have can't make another question of it.
-            int used = law.used[what];
-            int key = what;
-            key = key * 12 + ((used >> WORD_LAMP & 1) != 0 ? lamp + 1 : 0);
-            key = key * 8 + ((used >> WORD_KIND & 1) != 0 ? kind : 0);
-            key = key * 8 + ((used >> WORD_OTHER & 1) != 0 ? other + 1 : 0);
-            key = key * 16 + ((used >> WORD_NEAR & 1) != 0 ? near + 1 : 0);
-            key = key * 4 + ((used >> WORD_LATER & 1) != 0 ? later + 1 : 0);
-            key = key * 128 + ((used >> WORD_MINUTE & 1) != 0 ? minute : 0);
-            int place = key * 0x9E3779B1 >>> 32 - MEMO_BITS;
-            long question = generation << KEY_BITS | key;
-            if (memo[place] >>> 4 == question) {
-                return (int) (memo[place] & 15);
             }
             int[] words = machine.words;
             words[WORD_LAMP] = lamp;
@@ -1570,41 +1628,48 @@ public final class LampTempers {
             words[WORD_MINUTE] = minute;
             words[WORD_WIND] = wind;
             words[WORD_MOOD] = mood;
-            int answer = decide(what);
-            memo[place] = question << 4 | answer;
+            int key = keyOf(what);
+            int place = key * 0x9E3779B1 >>> 32 - MEMO_BITS;
+            long question = generation << KEY_BITS | key;
+            if (memo[place] >>> ANSWER_BITS == question) {
+                return (int) memo[place] & (1 << ANSWER_BITS) - 1;
+            }
+            int answer = what == SHUNS ? 0 : 1;
+            for (int clause = law.size - 1; clause >= 0; clause--) {
+                int test = law.part(clause, TEST);
+                if (law.part(clause, VERB) != what || test != NONE && machine.run(law.code, test) == 0) {
+                    continue;
+                }
+                int value = what == SHUNS ? 1 : machine.run(law.code, law.part(clause, FIRST));
+                if (what == SHUNS || !machine.broken) {
+                    answer = Math.max(LEAST, Math.min(MOST, value));
+                    break;
+                }
+            }
+            memo[place] = question << ANSWER_BITS | answer;
             return answer;
         }
 
-        /** The last clause that holds tells; for who shuns whom any one does. */
-        private int decide(int what) {
-            for (int clause = law.size - 1; clause >= 0; clause--) {
-                if (law.part(clause, VERB) != what) {
-                    continue;
-                }
-                int test = law.part(clause, TEST);
-                if (test != NONE && machine.run(law.code, test) == 0) {
-                    continue;
-                }
-                if (what == SHUNS) {
-                    return 1;
-                }
-                int value = machine.run(law.code, law.part(clause, FIRST));
-                if (!machine.broken) {
-                    return Math.max(LEAST, Math.min(MOST, value));
-                }
-            }
-            return what == SHUNS ? 0 : 1;
+        /** The words' numbers in one. A word that the clauses don't have can't make another question of it. */
+        private int keyOf(int what) {
+            int[] words = machine.words;
+            int used = law.used[what];
+            int key = what * 12 + ((used >> WORD_LAMP & 1) != 0 ? words[WORD_LAMP] + 1 : 0);
+            key = key * 8 + ((used >> WORD_KIND & 1) != 0 ? words[WORD_KIND] : 0);
+            key = key * 8 + ((used >> WORD_OTHER & 1) != 0 ? words[WORD_OTHER] + 1 : 0);
+            key = key * 16 + ((used >> WORD_NEAR & 1) != 0 ? words[WORD_NEAR] + 1 : 0);
+            key = key * 4 + ((used >> WORD_LATER & 1) != 0 ? words[WORD_LATER] + 1 : 0);
+            return key * 128 + ((used >> WORD_MINUTE & 1) != 0 ? words[WORD_MINUTE] : 0);
         }
     }
 
     /** A night that is run minute by minute, with one lamp, one lantern more or another kind, if so told. */
     private static final class Night {
-        private static final int AS_IS = -2;
-
         int lamps = 0;
         final int[] corners = new int[LAMPS];
         final int[] kinds = new int[LAMPS];
         final int[] oil = new int[LAMPS];
+        /** The minute since which a lamp burns, or in which one that waits went out. */
         final int[] since = new int[LAMPS];
         /** Lamps that burn, that burn since this minute only, that went out in it, as bits. */
         int burning = 0;
@@ -1617,14 +1682,14 @@ public final class LampTempers {
         private final Town town;
         private final Streets streets;
         private final Tempers tempers;
-        private final int[] outAt = new int[LAMPS];
+        /** Lamps that went out and will burn again, as bits. */
         private int waiting = 0;
+        /** The lamp that is not as the town has it, or NONE. */
+        private int special = NONE;
         private final int[] firstSwitch = new int[MINUTES];
         private final int[] nextSwitch = new int[SWITCHES];
-        /** What each lamp drinks, if that is the same in all minutes; NONE: not asked yet. */
-        private final int[] thirst = new int[LAMPS];
-        /** A sight that is taken for all, if it is not AS_IS. */
-        private int pretended = AS_IS;
+        private final int[] shunned = new int[LAMPS];
+        private final int[] kept = new int[2 * LAMPS + 2];
 
         Night(Town town, Streets streets, Tempers tempers) {
             this.town = town;
@@ -1633,8 +1698,7 @@ public final class LampTempers {
         }
 
         void load() {
-            lamps = town.lamps.size;
-            for (int lamp = 0; lamp < lamps; lamp++) {
+            for (int lamp = 0; lamp < town.lamps.size; lamp++) {
                 corners[lamp] = town.lamps.get(lamp, CORNER);
                 kinds[lamp] = town.lamps.get(lamp, KIND);
             }
@@ -1644,13 +1708,13 @@ public final class LampTempers {
                 nextSwitch[i] = firstSwitch[minute];
                 firstSwitch[minute] = i;
             }
-            lanterns = town.lanterns.size;
-            for (int lantern = 0; lantern < lanterns; lantern++) {
+            for (int lantern = 0; lantern < town.lanterns.size; lantern++) {
                 lanternKinds[lantern] = town.lanterns.get(lantern, LANTERN_KIND);
                 for (int minute = 0; minute < MINUTES; minute++) {
                     places[lantern * MINUTES + minute] = placeOf(lantern, minute);
                 }
             }
+            dismiss();
         }
 
         private int placeOf(int lantern, int minute) {
@@ -1668,7 +1732,14 @@ public final class LampTempers {
                 corners[guest] = corner;
                 kinds[guest] = kind;
                 lamps = guest + 1;
+                special = guest;
             }
+        }
+
+        /** A lamp of another kind, perhaps. */
+        void disguise(int lamp, int kind) {
+            kinds[lamp] = kind;
+            special = kind == town.lamps.get(lamp, KIND) ? NONE : lamp;
         }
 
         /** One lantern more; its corner in each minute. */
@@ -1679,8 +1750,12 @@ public final class LampTempers {
             lanterns = town.lanterns.size + 1;
         }
 
-        /** No lamp and no lantern more than the town has. */
+        /** All is as the town has it. */
         void dismiss() {
+            if (special != NONE && special < town.lamps.size) {
+                kinds[special] = town.lamps.get(special, KIND);
+            }
+            special = NONE;
             lamps = town.lamps.size;
             lanterns = town.lanterns.size;
         }
@@ -1690,23 +1765,42 @@ public final class LampTempers {
                 oil[lamp] = lamp < town.lamps.size ? town.lamps.get(lamp, OIL_FULL) : OIL;
                 since[lamp] = 0;
             }
-            Arrays.fill(thirst, NONE);
             burning = lamps > town.lamps.size ? 1 << town.lamps.size : 0;
             fresh = burning;
             waiting = 0;
             gone = 0;
         }
 
+        /** What is so between two minutes is kept; recall() goes back to it. */
+        void keep() {
+            System.arraycopy(oil, 0, kept, 0, LAMPS);
+            System.arraycopy(since, 0, kept, LAMPS, LAMPS);
+            kept[2 * LAMPS] = burning;
+            kept[2 * LAMPS + 1] = waiting;
+        }
+
+        void recall() {
+            System.arraycopy(kept, 0, oil, 0, LAMPS);
+            System.arraycopy(kept, LAMPS, since, 0, LAMPS);
+            burning = kept[2 * LAMPS];
+            waiting = kept[2 * LAMPS + 1];
+            fresh = 0;
+        }
+
         /** Runs a minute: the lamps that are lit in it, as bits. */
         int step(int minute) {
             prepare(minute);
-            int stirred = stirredLamps();
-            int moved = movedLanterns(minute);
             int leaving = 0;
-            // Whom nobody new came near goes on as in the minute before.
-            for (int lamp = 0; lamp < lamps && (stirred | moved) != 0; lamp++) {
-                if ((burning >> lamp & 1) != 0 && flees(lamp, stirred, moved, minute)) {
-                    leaving |= 1 << lamp;
+            // Where nobody new came, all go on as in the minute before.
+            if (stirredLamps() != 0 || movedLanterns(minute) != 0) {
+                leaving = fleeing(minute);
+                for (int lamp = 0; lamp < lamps; lamp++) {
+                    shunned[lamp] = (burning >> lamp & 1) == 0 ? 0 : shunnedBy(lamp, minute);
+                }
+                for (int lamp = 0; lamp < lamps; lamp++) {
+                    if (shunned[lamp] != 0 && yields(lamp)) {
+                        leaving |= 1 << lamp;
+                    }
                 }
             }
             return finish(minute, leaving);
@@ -1727,7 +1821,7 @@ public final class LampTempers {
             }
             for (int left = waiting; left != 0; left &= left - 1) {
                 int lamp = Integer.numberOfTrailingZeros(left);
-                if (minute - outAt[lamp] >= town.terms[REST]) {
+                if (minute - since[lamp] >= town.terms[REST]) {
                     kindle(lamp, minute);
                 }
             }
@@ -1742,7 +1836,7 @@ public final class LampTempers {
 
         /** Lamps that burn since this minute, as bits; all that burn, if the law looks at the minute. */
         int stirredLamps() {
-            return tempers.heedsMinute(SHUNS) ? burning : fresh & burning;
+            return tempers.heeds(SHUNS, WORD_MINUTE) ? burning : fresh & burning;
         }
 
         /** Lanterns that were not where they are in the minute before, as bits; all, if the law looks at the minute. */
@@ -1751,68 +1845,94 @@ public final class LampTempers {
             for (int lantern = 0; lantern < lanterns; lantern++) {
                 int place = places[lantern * MINUTES + minute];
                 int before = minute == 0 ? NONE : places[lantern * MINUTES + minute - 1];
-                if (place != NONE && (place != before || tempers.heedsMinute(SHUNS))) {
+                if (place != NONE && (place != before || tempers.heeds(SHUNS, WORD_MINUTE))) {
                     moved |= 1 << lantern;
                 }
             }
             return moved;
         }
 
-        /** Whether a lamp goes out, if only for the sake of those that are stirred, should it not be so itself. */
-        private boolean flees(int lamp, int stirred, int moved, int minute) {
-            boolean isStirred = (stirred >> lamp & 1) != 0;
-            int others = (isStirred ? burning : stirred) & ~(1 << lamp);
-            for (int left = others; left != 0; left &= left - 1) {
-                int other = Integer.numberOfTrailingZeros(left);
-                int near = pretended == AS_IS ? streets.sight(corners[lamp], corners[other]) : pretended;
-                int later = Integer.compare(since[lamp], since[other]);
-                if (tempers.ask(SHUNS, lamp, kinds[lamp], kinds[other], near, later > 0 ? 1 : 0, minute) == 0) {
-                    continue;
-                }
-                boolean mayStay = later < 0 || later == 0 && other > lamp;
-                if (!mayStay
-                        || tempers.ask(SHUNS, other, kinds[other], kinds[lamp], near, later < 0 ? 1 : 0, minute) == 0) {
-                    return true;
-                }
-            }
+        /** Lamps that burn and shun a lantern, as bits. */
+        private int fleeing(int minute) {
+            int bits = 0;
             for (int lantern = 0; lantern < lanterns; lantern++) {
                 int place = places[lantern * MINUTES + minute];
-                if (place == NONE || !isStirred && (moved >> lantern & 1) == 0) {
+                if (place == NONE) {
                     continue;
                 }
-                int near = pretended == AS_IS ? streets.sight(corners[lamp], place) : pretended;
-                if (tempers.ask(SHUNS, lamp, kinds[lamp], lanternKinds[lantern], near, 1, minute) != 0) {
+                int kind = lanternKinds[lantern];
+                int fearful = tempers.fearful(kind, place, minute);
+                if (special != NONE) {
+                    int near = streets.sight(corners[special], place);
+                    fearful &= ~(1 << special);
+                    fearful |= tempers.ask(SHUNS, special, kinds[special], kind, near, 1, minute) << special;
+                }
+                bits |= fearful & burning;
+            }
+            return bits;
+        }
+
+        /** Lamps that burn and that a lamp shuns, as bits. */
+        private int shunnedBy(int lamp, int minute) {
+            int unknown = special == NONE ? 0 : lamp == special ? burning & ~(1 << lamp) : burning & 1 << special;
+            int known = burning & ~unknown & ~(1 << lamp);
+            int bits = 0;
+            if (known != 0) {
+                int older = tempers.heeds(SHUNS, WORD_LATER) ? olderThan(lamp) : 0;
+                bits = tempers.hated(lamp, 0, minute) & known & ~older;
+                if (older != 0) {
+                    bits |= tempers.hated(lamp, 1, minute) & known & older;
+                }
+            }
+            for (int left = unknown; left != 0; left &= left - 1) {
+                int other = Integer.numberOfTrailingZeros(left);
+                int near = streets.sight(corners[lamp], corners[other]);
+                int later = since[lamp] > since[other] ? 1 : 0;
+                bits |= tempers.ask(SHUNS, lamp, kinds[lamp], kinds[other], near, later, minute) << other;
+            }
+            return bits;
+        }
+
+        private int olderThan(int lamp) {
+            int bits = 0;
+            for (int other = 0; other < lamps; other++) {
+                if (since[lamp] > since[other]) {
+                    bits |= 1 << other;
+                }
+            }
+            return bits;
+        }
+
+        /** Whether a lamp goes out for the sake of one that it shuns; one that came later and shuns it, too, does that. */
+        private boolean yields(int lamp) {
+            for (int left = shunned[lamp]; left != 0; left &= left - 1) {
+                int other = Integer.numberOfTrailingZeros(left);
+                if ((shunned[other] >> lamp & 1) == 0 || !cameLater(other, lamp)) {
                     return true;
                 }
             }
             return false;
         }
 
-        /** Whether a lamp would go out for the sake of another lamp or of a lantern, were sight as told. */
-        boolean wouldFlee(int lamp, int others, int lanterns, int near, int minute) {
-            pretended = near;
-            boolean would = flees(lamp, others & ~(1 << lamp), lanterns, minute);
-            pretended = AS_IS;
-            return would;
+        boolean cameLater(int lamp, int other) {
+            return since[lamp] > since[other] || since[lamp] == since[other] && lamp > other;
         }
 
         /** Some lamps go out, the others are lit and drink. */
         int finish(int minute, int leaving) {
             for (int left = leaving; left != 0; left &= left - 1) {
-                outAt[Integer.numberOfTrailingZeros(left)] = minute;
+                since[Integer.numberOfTrailingZeros(left)] = minute;
             }
             gone = leaving;
             waiting |= leaving;
             burning &= ~leaving;
             fresh = 0;
             int lit = burning;
-            boolean isAsked = tempers.heedsMinute(DRINKS);
             for (int left = lit; left != 0; left &= left - 1) {
                 int lamp = Integer.numberOfTrailingZeros(left);
-                if (isAsked || thirst[lamp] == NONE) {
-                    thirst[lamp] = tempers.ask(DRINKS, lamp, kinds[lamp], NONE, NONE, NONE, minute);
-                }
-                oil[lamp] = Math.max(0, oil[lamp] - thirst[lamp]);
+                int thirst = lamp == special ? tempers.ask(DRINKS, lamp, kinds[lamp], NONE, NONE, NONE, minute)
+                    : tempers.thirst(lamp, minute);
+                oil[lamp] = Math.max(0, oil[lamp] - thirst);
                 if (oil[lamp] == 0) {
                     burning &= ~(1 << lamp);
                 }
@@ -1958,6 +2078,8 @@ public final class LampTempers {
 
     /** Nights that are not, but might be. */
     private static final class Guesses {
+        private static final int ENDLESS = MINUTES * LAMPS + 1;
+
         final Table strangers = new Table(CORNERS * KINDS, 1);
         final Table changes = new Table(LAMPS * KINDS, 1);
         final int[] likedKinds = new int[LAMPS];
@@ -1974,6 +2096,10 @@ public final class LampTempers {
         private int restless = 0;
         private final int[] worstAsked = new int[4];
         private final int[] trial = new int[MINUTES];
+        /** For each minute the lamps that soot tells lit, not lit, as bits; the last minute of any. */
+        private final int[] sootLit = new int[MINUTES];
+        private final int[] sootDark = new int[MINUTES];
+        private int lastSoot = NONE;
 
         Guesses(Town town, Streets streets, Night night) {
             this.town = town;
@@ -1992,16 +2118,16 @@ public final class LampTempers {
         /** In how many minutes all lamps together are lit with one lantern more. */
         int litWith(int kind, int[] corners) {
             night.carry(kind, corners);
-            int sum = litBelow(MINUTES * LAMPS + 1);
+            night.restart();
+            int sum = litFrom(0, MINUTES, ENDLESS);
             night.dismiss();
             return sum;
         }
 
-        /** In how many minutes lamps are lit, as far as that stays below a bound. */
-        private int litBelow(int bound) {
+        /** In how many minutes lamps are lit from one minute till ahead of another, as far as that stays below a bound. */
+        private int litFrom(int from, int till, int bound) {
             int sum = 0;
-            night.restart();
-            for (int minute = 0; minute < MINUTES && sum < bound; minute++) {
+            for (int minute = from; minute < till && sum < bound; minute++) {
                 sum += Integer.bitCount(night.step(minute));
             }
             return sum;
@@ -2015,14 +2141,19 @@ public final class LampTempers {
             worstAsked[1] = minute;
             worstAsked[2] = corner;
             worstAsked[3] = n;
-            worstMinutes = MINUTES * LAMPS + 1;
+            worstMinutes = ENDLESS;
+            // Ahead of its first minute all is as without that lantern.
+            night.restart();
+            int before = litFrom(0, minute, ENDLESS);
+            night.keep();
             int rows = n == 0 ? 1 : n == 1 ? CORNERS : n == 2 ? CORNERS * CORNERS : CORNERS * CORNERS * CORNERS;
             for (int row = 0; row < rows; row++) {
                 if (!layTrial(row, rows, minute, corner)) {
                     continue;
                 }
                 night.carry(kind, trial);
-                int sum = litBelow(worstMinutes);
+                night.recall();
+                int sum = before + litFrom(minute, MINUTES, worstMinutes - before);
                 if (sum < worstMinutes) {
                     worstMinutes = sum;
                     int unit = rows;
@@ -2065,7 +2196,7 @@ public final class LampTempers {
             int asIs = 0;
             for (int kind = 0; kind < KINDS; kind++) {
                 int sum = 0;
-                night.kinds[lamp] = kind;
+                night.disguise(lamp, kind);
                 night.restart();
                 for (int minute = 0; minute < MINUTES; minute++) {
                     sum += night.step(minute) >> lamp & 1;
@@ -2078,7 +2209,7 @@ public final class LampTempers {
                     asIs = sum;
                 }
             }
-            night.kinds[lamp] = town.lamps.get(lamp, KIND);
+            night.dismiss();
             likedMinutes[lamp] = most;
             if (most > asIs) {
                 restless |= 1 << lamp;
@@ -2098,6 +2229,7 @@ public final class LampTempers {
             }
             areStrangersFound = true;
             strangers.size = 0;
+            gatherSoot();
             for (int guest = 0; guest < CORNERS * KINDS; guest++) {
                 night.invite(guest / KINDS, guest % KINDS);
                 if (isSootExplained()) {
@@ -2113,31 +2245,40 @@ public final class LampTempers {
             }
             areChangesFound = true;
             changes.size = 0;
+            gatherSoot();
             for (int lamp = 0; lamp < town.lamps.size; lamp++) {
-                int own = town.lamps.get(lamp, KIND);
                 for (int kind = 0; kind < KINDS; kind++) {
-                    night.kinds[lamp] = kind;
-                    if (kind != own && isSootExplained()) {
+                    night.disguise(lamp, kind);
+                    if (kind != town.lamps.get(lamp, KIND) && isSootExplained()) {
                         changes.list(lamp * KINDS + kind);
                     }
                 }
-                night.kinds[lamp] = own;
+                night.dismiss();
+            }
+        }
+
+        private void gatherSoot() {
+            Arrays.fill(sootLit, 0);
+            Arrays.fill(sootDark, 0);
+            lastSoot = NONE;
+            for (int i = 0; i < town.soot.size; i++) {
+                int minute = town.soot.get(i, WHEN);
+                int bit = 1 << town.soot.get(i, WHOSE);
+                if (town.soot.get(i, IS_ON) == 1) {
+                    sootLit[minute] |= bit;
+                } else {
+                    sootDark[minute] |= bit;
+                }
+                lastSoot = Math.max(lastSoot, minute);
             }
         }
 
         private boolean isSootExplained() {
-            int last = NONE;
-            for (int i = 0; i < town.soot.size; i++) {
-                last = Math.max(last, town.soot.get(i, WHEN));
-            }
             night.restart();
-            for (int minute = 0; minute <= last && minute < MINUTES; minute++) {
+            for (int minute = 0; minute <= lastSoot && minute < MINUTES; minute++) {
                 int lit = night.step(minute);
-                for (int i = 0; i < town.soot.size; i++) {
-                    if (town.soot.get(i, WHEN) == minute
-                            && (lit >> town.soot.get(i, WHOSE) & 1) != town.soot.get(i, IS_ON)) {
-                        return false;
-                    }
+                if ((sootLit[minute] & ~lit | sootDark[minute] & lit) != 0) {
+                    return false;
                 }
             }
             return true;
@@ -2308,12 +2449,12 @@ public final class LampTempers {
                     int others = (isStirred ? night.burning : stirred) & ~(1 << lamp);
                     for (; others != 0; others &= others - 1) {
                         int other = Integer.numberOfTrailingZeros(others);
-                        learn(lamp, night.corners[other], 1 << other, 0, minute);
+                        learn(lamp, other, night.kinds[other], night.corners[other], minute);
                     }
                     for (int lantern = 0; lantern < night.lanterns; lantern++) {
                         int place = night.places[lantern * MINUTES + minute];
                         if (place != NONE && (isStirred || (moved >> lantern & 1) != 0)) {
-                            learn(lamp, place, 0, 1 << lantern, minute);
+                            learn(lamp, NONE, night.lanternKinds[lantern], place, minute);
                         }
                     }
                 }
@@ -2321,11 +2462,18 @@ public final class LampTempers {
             }
         }
 
-        private void learn(int lamp, int corner, int others, int lanterns, int minute) {
+        /** By which sights a lamp would go out for the sake of another lamp, or of a lantern (other NONE). */
+        private void learn(int lamp, int other, int kind, int corner, int minute) {
             int pair = night.corners[lamp] * CORNERS + corner;
+            int own = night.kinds[lamp];
+            boolean isLantern = other == NONE;
+            int later = isLantern || night.since[lamp] > night.since[other] ? 1 : 0;
+            boolean mayBeSpared = !isLantern && night.cameLater(other, lamp);
+            int otherLater = !isLantern && night.since[other] > night.since[lamp] ? 1 : 0;
             for (int left = possibleSights(pair) & ~quarrels[pair]; left != 0; left &= left - 1) {
                 int near = Integer.numberOfTrailingZeros(left) - 1;
-                if (night.wouldFlee(lamp, others, lanterns, near, minute)) {
+                if (tempers.ask(SHUNS, lamp, own, kind, near, later, minute) != 0 && !(mayBeSpared
+                        && tempers.ask(SHUNS, other, kind, own, near, otherLater, minute) != 0)) {
                     quarrels[pair] |= 1 << near + 1;
                 }
             }
