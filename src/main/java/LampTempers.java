@@ -1352,10 +1352,11 @@ public final class LampTempers {
             int edge = seen;
             for (int distance = 0; distance < CORNERS && edge != 0; distance++) {
                 int reached = 0;
-                for (int left = edge; left != 0; left &= left - 1) {
-                    int corner = Integer.numberOfTrailingZeros(left);
-                    distances[start + corner] = distance;
-                    reached |= next[corner];
+                for (int corner = 0; corner < CORNERS; corner++) {
+                    if ((edge >> corner & 1) != 0) {
+                        distances[start + corner] = distance;
+                        reached |= next[corner];
+                    }
                 }
                 edge = reached & ~seen;
                 seen |= edge;
@@ -1480,9 +1481,11 @@ public final class LampTempers {
         /** The fewest steps from a corner to a set of stops, by the costs of the smaller sets. */
         private int rest(int corner, int set) {
             int fewest = set == 0 ? 0 : NEVER;
-            for (int left = set; left != 0; left &= left - 1) {
-                int stop = Integer.numberOfTrailingZeros(left);
-                fewest = Math.min(fewest, stepsTo[corner * CORNERS + stops[stop]] + costs[(set ^ 1 << stop) * LAMPS + stop]);
+            for (int stop = 0; stop < stopCount; stop++) {
+                if ((set >> stop & 1) != 0) {
+                    int onwards = costs[(set ^ 1 << stop) * LAMPS + stop];
+                    fewest = Math.min(fewest, steps(corner, stops[stop]) + onwards);
+                }
             }
             return fewest;
         }
@@ -1718,7 +1721,8 @@ public final class LampTempers {
         }
 
         private int placeOf(int lantern, int minute) {
-            int goes = Math.min(minute - town.lanterns.get(lantern, LANTERN_FROM), town.lanterns.get(lantern, LANTERN_GOES));
+            int minutes = minute - town.lanterns.get(lantern, LANTERN_FROM);
+            int goes = Math.min(minutes, town.lanterns.get(lantern, LANTERN_GOES));
             if (goes < 0) {
                 return NONE;
             }
@@ -1819,9 +1823,8 @@ public final class LampTempers {
                 }
                 told = nextSwitch[told];
             }
-            for (int left = waiting; left != 0; left &= left - 1) {
-                int lamp = Integer.numberOfTrailingZeros(left);
-                if (minute - since[lamp] >= town.terms[REST]) {
+            for (int lamp = 0; lamp < lamps && waiting != 0; lamp++) {
+                if ((waiting >> lamp & 1) != 0 && minute - since[lamp] >= town.terms[REST]) {
                     kindle(lamp, minute);
                 }
             }
@@ -1884,8 +1887,10 @@ public final class LampTempers {
                     bits |= tempers.hated(lamp, 1, minute) & known & older;
                 }
             }
-            for (int left = unknown; left != 0; left &= left - 1) {
-                int other = Integer.numberOfTrailingZeros(left);
+            for (int other = 0; other < lamps && unknown != 0; other++) {
+                if ((unknown >> other & 1) == 0) {
+                    continue;
+                }
                 int near = streets.sight(corners[lamp], corners[other]);
                 int later = since[lamp] > since[other] ? 1 : 0;
                 bits |= tempers.ask(SHUNS, lamp, kinds[lamp], kinds[other], near, later, minute) << other;
@@ -1903,11 +1908,11 @@ public final class LampTempers {
             return bits;
         }
 
-        /** Whether a lamp goes out for the sake of one that it shuns; one that came later and shuns it, too, does that. */
+        /** Whether a lamp goes out for the sake of one that it shuns and that does not so itself. */
         private boolean yields(int lamp) {
-            for (int left = shunned[lamp]; left != 0; left &= left - 1) {
-                int other = Integer.numberOfTrailingZeros(left);
-                if ((shunned[other] >> lamp & 1) == 0 || !cameLater(other, lamp)) {
+            for (int other = 0; other < lamps; other++) {
+                if ((shunned[lamp] >> other & 1) != 0
+                        && ((shunned[other] >> lamp & 1) == 0 || !cameLater(other, lamp))) {
                     return true;
                 }
             }
@@ -1920,16 +1925,18 @@ public final class LampTempers {
 
         /** Some lamps go out, the others are lit and drink. */
         int finish(int minute, int leaving) {
-            for (int left = leaving; left != 0; left &= left - 1) {
-                since[Integer.numberOfTrailingZeros(left)] = minute;
-            }
             gone = leaving;
             waiting |= leaving;
             burning &= ~leaving;
             fresh = 0;
             int lit = burning;
-            for (int left = lit; left != 0; left &= left - 1) {
-                int lamp = Integer.numberOfTrailingZeros(left);
+            for (int lamp = 0; lamp < lamps; lamp++) {
+                if ((leaving >> lamp & 1) != 0) {
+                    since[lamp] = minute;
+                }
+                if ((lit >> lamp & 1) == 0) {
+                    continue;
+                }
                 int thirst = lamp == special ? tempers.ask(DRINKS, lamp, kinds[lamp], NONE, NONE, NONE, minute)
                     : tempers.thirst(lamp, minute);
                 oil[lamp] = Math.max(0, oil[lamp] - thirst);
@@ -1989,9 +1996,10 @@ public final class LampTempers {
         int lightAt(int minute) {
             if (light[minute] == NONE) {
                 int bits = 0;
-                for (int left = lit[minute]; left != 0; left &= left - 1) {
-                    int lamp = Integer.numberOfTrailingZeros(left);
-                    bits |= shine(lamp, night.kinds[lamp], night.corners[lamp], minute);
+                for (int lamp = 0; lamp < town.lamps.size; lamp++) {
+                    if ((lit[minute] >> lamp & 1) != 0) {
+                        bits |= shine(lamp, night.kinds[lamp], night.corners[lamp], minute);
+                    }
                 }
                 for (int lantern = 0; lantern < night.lanterns; lantern++) {
                     int place = night.places[lantern * MINUTES + minute];
@@ -2124,7 +2132,7 @@ public final class LampTempers {
             return sum;
         }
 
-        /** In how many minutes lamps are lit from one minute till ahead of another, as far as that stays below a bound. */
+        /** In how many minutes lamps are lit from one minute till ahead of another; beyond a bound no more is added. */
         private int litFrom(int from, int till, int bound) {
             int sum = 0;
             for (int minute = from; minute < till && sum < bound; minute++) {
@@ -2291,6 +2299,7 @@ public final class LampTempers {
         static final int KINDS_TOLD = 3;
         private static final int NO_LAMP = 100;
         private static final int MOST_SHUTTERS = 3;
+        private static final int ALL = -1;
 
         int hangLamps = 0;
         int hangWays = 0;
@@ -2323,13 +2332,19 @@ public final class LampTempers {
             isPeaceFound = false;
         }
 
-        /** The place of the n-th bit that is set. */
+        /** The place of the n-th bit that is set, NONE if there are not so many. */
         private static int placeOf(int bits, int n) {
-            int left = bits;
-            for (int i = 0; i < n; i++) {
-                left &= left - 1;
+            int before = 0;
+            for (int place = 0; place < WAYS; place++) {
+                if ((bits >> place & 1) == 0) {
+                    continue;
+                }
+                if (before == n) {
+                    return place;
+                }
+                before++;
             }
-            return Integer.numberOfTrailingZeros(left);
+            return NONE;
         }
 
         void findHanging(int sites, int kinds, int corners, int minute) {
@@ -2376,14 +2391,14 @@ public final class LampTempers {
                 int site = item / KINDS_TOLD;
                 int corner = placeOf(sites, site);
                 int kind = placeOf(kinds, item % KINDS_TOLD);
-                if (kind >= KINDS) {
+                if (kind == NONE) {
                     continue;
                 }
                 shines[item] = streets.within(corner, tempers.ask(REACHES, site, kind, NONE, NONE, NONE, minute));
                 for (int other = 0; other < items; other++) {
                     int otherKind = placeOf(kinds, other % KINDS_TOLD);
                     int near = streets.sight(corner, placeOf(sites, other / KINDS_TOLD));
-                    if (other / KINDS_TOLD != site && otherKind < KINDS
+                    if (other / KINDS_TOLD != site && otherKind != NONE
                             && tempers.ask(SHUNS, site, kind, otherKind, near, 0, minute) != 0) {
                         clashes[item] |= 1 << other;
                         clashes[other] |= 1 << item;
@@ -2443,22 +2458,31 @@ public final class LampTempers {
                 night.prepare(minute);
                 int stirred = night.stirredLamps();
                 int moved = night.movedLanterns(minute);
-                for (int left = night.burning; left != 0 && (stirred | moved) != 0; left &= left - 1) {
-                    int lamp = Integer.numberOfTrailingZeros(left);
-                    boolean isStirred = (stirred >> lamp & 1) != 0;
-                    int others = (isStirred ? night.burning : stirred) & ~(1 << lamp);
-                    for (; others != 0; others &= others - 1) {
-                        int other = Integer.numberOfTrailingZeros(others);
-                        learn(lamp, other, night.kinds[other], night.corners[other], minute);
-                    }
-                    for (int lantern = 0; lantern < night.lanterns; lantern++) {
-                        int place = night.places[lantern * MINUTES + minute];
-                        if (place != NONE && (isStirred || (moved >> lantern & 1) != 0)) {
-                            learn(lamp, NONE, night.lanternKinds[lantern], place, minute);
-                        }
+                for (int lamp = 0; lamp < night.lamps && (stirred | moved) != 0; lamp++) {
+                    if ((night.burning >> lamp & 1) != 0) {
+                        boolean isStirred = (stirred >> lamp & 1) != 0;
+                        learnOfLamps(lamp, isStirred ? night.burning : stirred, minute);
+                        learnOfLanterns(lamp, isStirred ? ALL : moved, minute);
                     }
                 }
                 night.finish(minute, 0);
+            }
+        }
+
+        private void learnOfLamps(int lamp, int others, int minute) {
+            for (int other = 0; other < night.lamps; other++) {
+                if (other != lamp && (others >> other & 1) != 0) {
+                    learn(lamp, other, night.kinds[other], night.corners[other], minute);
+                }
+            }
+        }
+
+        private void learnOfLanterns(int lamp, int lanterns, int minute) {
+            for (int lantern = 0; lantern < night.lanterns; lantern++) {
+                int place = night.places[lantern * MINUTES + minute];
+                if (place != NONE && (lanterns >> lantern & 1) != 0) {
+                    learn(lamp, NONE, night.lanternKinds[lantern], place, minute);
+                }
             }
         }
 
@@ -2470,10 +2494,10 @@ public final class LampTempers {
             int later = isLantern || night.since[lamp] > night.since[other] ? 1 : 0;
             boolean mayBeSpared = !isLantern && night.cameLater(other, lamp);
             int otherLater = !isLantern && night.since[other] > night.since[lamp] ? 1 : 0;
-            for (int left = possibleSights(pair) & ~quarrels[pair]; left != 0; left &= left - 1) {
-                int near = Integer.numberOfTrailingZeros(left) - 1;
-                if (tempers.ask(SHUNS, lamp, own, kind, near, later, minute) != 0 && !(mayBeSpared
-                        && tempers.ask(SHUNS, other, kind, own, near, otherLater, minute) != 0)) {
+            int open = possibleSights(pair) & ~quarrels[pair];
+            for (int near = NONE; near < CORNERS && open != 0; near++) {
+                if ((open >> near + 1 & 1) != 0 && tempers.ask(SHUNS, lamp, own, kind, near, later, minute) != 0
+                        && !(mayBeSpared && tempers.ask(SHUNS, other, kind, own, near, otherLater, minute) != 0)) {
                     quarrels[pair] |= 1 << near + 1;
                 }
             }
@@ -2523,16 +2547,22 @@ public final class LampTempers {
 
         private static int waysOf(int choice, int unshuttered) {
             int bits = 0;
-            for (int left = choice; left != 0; left &= left - 1) {
-                bits |= 1 << placeOf(unshuttered, Integer.numberOfTrailingZeros(left));
+            int place = 0;
+            for (int way = 0; way < WAYS; way++) {
+                if ((unshuttered >> way & 1) != 0) {
+                    bits |= (choice >> place & 1) << way;
+                    place++;
+                }
             }
             return bits;
         }
 
         private boolean isPeaceful(int shuttered) {
             System.arraycopy(streets.open, 0, open, 0, CORNERS);
-            for (int left = shuttered; left != 0; left &= left - 1) {
-                int way = Integer.numberOfTrailingZeros(left);
+            for (int way = 0; way < town.ways.size && shuttered >> way != 0; way++) {
+                if ((shuttered >> way & 1) == 0) {
+                    continue;
+                }
                 int a = town.ways.get(way, LOWER);
                 int b = town.ways.get(way, HIGHER);
                 open[a] &= ~(1 << b);
