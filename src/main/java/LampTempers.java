@@ -377,7 +377,7 @@ public final class LampTempers {
             return NONE;
         }
         look();
-        chronicle.tell();
+        chronicle.relate();
         switch (what) {
             case 0:
                 return chronicle.lit[minute] >> lamp & 1;
@@ -395,7 +395,7 @@ public final class LampTempers {
             return NONE;
         }
         look();
-        chronicle.tell();
+        chronicle.relate();
         return chronicle.lightAt(minute);
     }
 
@@ -404,7 +404,7 @@ public final class LampTempers {
             return NONE;
         }
         look();
-        chronicle.tell();
+        chronicle.relate();
         int lowest = lamp == NONE ? 0 : lamp;
         int highest = lamp == NONE ? town.lamps.size - 1 : lamp;
         if (what == 2) {
@@ -422,7 +422,7 @@ public final class LampTempers {
             return NONE;
         }
         look();
-        chronicle.tell();
+        chronicle.relate();
         return chronicle.darkErrands(what);
     }
 
@@ -440,7 +440,7 @@ public final class LampTempers {
             return NONE;
         }
         look();
-        chronicle.tell();
+        chronicle.relate();
         chronicle.findWalk(from, minute, to, light);
         int end = chronicle.walkEnd;
         if (i == NONE || end == NONE) {
@@ -1978,7 +1978,7 @@ public final class LampTempers {
             walkAsked[0] = NONE;
         }
 
-        void tell() {
+        void relate() {
             if (isTold) {
                 return;
             }
@@ -1992,7 +1992,7 @@ public final class LampTempers {
             }
         }
 
-        /** What the calls below ask of is told first. */
+        /** The night was related first. */
         int lightAt(int minute) {
             if (light[minute] == NONE) {
                 int bits = 0;
@@ -2494,9 +2494,9 @@ public final class LampTempers {
             int later = isLantern || night.since[lamp] > night.since[other] ? 1 : 0;
             boolean mayBeSpared = !isLantern && night.cameLater(other, lamp);
             int otherLater = !isLantern && night.since[other] > night.since[lamp] ? 1 : 0;
-            int open = possibleSights(pair) & ~quarrels[pair];
-            for (int near = NONE; near < CORNERS && open != 0; near++) {
-                if ((open >> near + 1 & 1) != 0 && tempers.ask(SHUNS, lamp, own, kind, near, later, minute) != 0
+            int undecided = possibleSights(pair) & ~quarrels[pair];
+            for (int near = NONE; near < CORNERS && undecided != 0; near++) {
+                if ((undecided >> near + 1 & 1) != 0 && tempers.ask(SHUNS, lamp, own, kind, near, later, minute) != 0
                         && !(mayBeSpared && tempers.ask(SHUNS, other, kind, own, near, otherLater, minute) != 0)) {
                     quarrels[pair] |= 1 << near + 1;
                 }
