@@ -941,6 +941,16 @@ public final class PromiseTests {
         rule(x, "reaches minute-6");
         due(x.bright(5), 4);
         due(x.bright(119), 28);
+        // Of the other one nothing is known to light and thirst: other, near, later are -1.
+        rule(x, "reaches 1+other");
+        due(x.bright(5), 4);
+        rule(x, "reaches near+1;drinks near+2");
+        due(x.bright(5), 4);
+        due(x.bright(7), 20);
+        due(x.bright(8), 16);
+        rule(x, "reaches later+1;drinks 4+later");
+        due(x.bright(5), 4);
+        due(x.bright(6), 16);
         // A lamp that goes out is not lit.
         rule(x, "shuns if other=3");
         due(x.bright(5), 12);
@@ -1257,6 +1267,28 @@ public final class PromiseTests {
         y.way(5, 1);
         due(y.shutters(0), -1);
         due(y.shutters(2), 0);
+        // To a lantern a lamp is later.
+        LampTempers z = street(2);
+        z.lamp(0, 0, 240);
+        z.turn(0, 0, 1);
+        z.lamp(0, 5, 240);
+        z.lantern(1, 0, 1);
+        rule(z, "shuns if other=1 and later=1 and near=1");
+        due(z.shutters(1), 1);
+        rule(z, "shuns if other=1 and later=0");
+        due(z.shutters(0), 0);
+        z.doused();
+        z.turn(1, 7, 1);
+        z.put(1, 0, 1);
+        rule(z, "shuns if later=1 and near=1 and other=0");
+        due(z.shutters(0), 1);
+        rule(z, "shuns if later=0 and near=1 and other=0");
+        due(z.shutters(0), 0);
+        rule(z, "shuns if later=0 and near=1 and other=5");
+        due(z.shutters(0), 1);
+        // Each shuns the other, if it came earlier or later; the one that came later goes out.
+        rule(z, "shuns if near=1 and (later=0 or lamp=1)");
+        due(z.shutters(0), 1);
         // The law looks at the minute: the lantern comes too late.
         rule(y, "shuns if near=2 and minute<5");
         due(y.shutters(0), 0);

@@ -125,7 +125,7 @@ public final class RandomRuns {
         String[] usual = {"shuns if kind=other and near<2", "shuns if near=1", "shuns if kind=other", "shuns if near>0 and near<3",
             "shuns if later=1 and kind=other", "shuns if lamp<3 and other>kind", "shuns if minute%7<3 and near<3", "reaches 2", "drinks 2",
             "reaches kind", "drinks kind+1", "drinks minute%3", "reaches minute%4", "shuns if mood>wind", "shuns if near<0",
-            "shuns if near=2", "shuns if kind>other", "shuns if near<2 and not kind=other", "shuns", "shuns if later=0 and near<2"};
+            "shuns if near=2", "shuns if kind>other", "shuns if near<2 and not kind=other", "shuns", "shuns if later=0 and near<2", "reaches 2+other", "drinks 3+later", "reaches 2+near if lamp<0", "shuns if later=1"};
         if (chance(60)) return usual[below(usual.length)];
         StringBuilder b = new StringBuilder();
         b.append(chance(50) ? "shuns" : pick("reaches ", "drinks ") + sum(true, 0));
@@ -179,7 +179,31 @@ public final class RandomRuns {
         call("end", Math.min(400, start + bytes.length));
     }
 
+    /** A town in which much happens: all corners joined, lamps on early and with much oil. */
+    private void buildDense() {
+        for (int i = 1; i < corners; i++) call("way", i, below(i));
+        for (int i = below(4); i > 0; i--) call("way", corner(), corner());
+        int lamps = 3 + below(4);
+        for (int i = 0; i < lamps; i++) call("lamp", corner(), kind(), chance(70) ? 100 + below(141) : 1 + below(30));
+        for (int i = 0; i < lamps; i++) call("turn", i, below(12), 1);
+        for (int i = below(4); i > 0; i--) call("turn", below(lamps), minute(), below(2));
+        if (chance(60)) writeLaw();
+        if (chance(40)) {
+            call("lantern", kind(), minute(), corner());
+            for (int i = below(6); i > 0; i--) call("go", 0, corner());
+        }
+        if (chance(50)) for (int i = below(3); i >= 0; i--) call("soot", below(lamps), minute(), below(2));
+        if (chance(50)) call("shutters", below(3));
+        if (chance(50)) call("stranger", -1);
+        if (chance(50)) call("changed", -1);
+        if (chance(50)) call("would", -1, 0);
+    }
+
     private void build() {
+        if (chance(50)) {
+            buildDense();
+            return;
+        }
         int ways = below(corners + 3);
         for (int i = 0; i < ways; i++) call("way", corner(), corner());
         int lamps = below(6);
