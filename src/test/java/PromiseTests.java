@@ -499,6 +499,14 @@ public final class PromiseTests {
         due(fault("shuns if [kind=1]"), 14);
         due(fault("shuns if (kind)=1"), 14);
         due(fault("shuns if 1<2 and"), 16);
+        due(fault("shuns if (1<and 1=1"), 12);
+        due(fault("shuns if (1=1;shuns"), 13);
+        due(fault("shuns if 1< or 1=1"), 12);
+        due(fault("shuns if 1=1 and or 1=1"), 17);
+        due(fault("reaches [1;shuns"), 10);
+        due(fault("reaches [;shuns"), 9);
+        due(fault("reaches 1+;shuns"), 10);
+        due(fault("reaches 1*if 1=1"), 10);
         due(fault("shuns if 1<2 nor 1=1"), 13);
         due(fault("shuns;"), 6);
         due(fault("shuns;;shuns"), 6);
@@ -1091,6 +1099,13 @@ public final class PromiseTests {
         due(x.walk(0, 0, 0, 2, -1), -1);
         due(x.walk(0, 0, 0, 0, -2), -1);
         due(x.walk(0, 0, 3, 0, MAX), -1);
+        // Each of the numbers makes another question of it.
+        due(x.walk(1, 0, 3, 0, -1), 2);
+        due(x.walk(1, 4, 3, 0, -1), 6);
+        due(x.walk(1, 4, 2, 0, -1), 5);
+        due(x.walk(0, 4, 2, 0, -1), 6);
+        due(x.walk(0, 4, 2, 1, -1), -1);
+        due(x.walk(0, 4, 2, 0, -1), 6);
         // Shutters are no hindrance to those who walk.
         x.shutter(1, 1);
         due(x.walk(0, 0, 3, 0, -1), 3);
@@ -1138,6 +1153,12 @@ public final class PromiseTests {
         due(x.worst(2, 0, 0, 3, 0), 0);
         due(x.worst(1, 119, 3, 3, -1), 119);
         due(x.worst(1, 119, 3, 3, 0), 2);
+        // Each of the numbers makes another question of it.
+        due(x.worst(1, 0, 2, 0, -1), 0);
+        due(x.worst(1, 7, 2, 0, -1), 7);
+        due(x.worst(1, 7, 0, 0, -1), 120);
+        due(x.worst(1, 7, 2, 0, -1), 7);
+        due(x.worst(3, 7, 2, 0, -1), 120);
         due(x.worst(6, 0, 0, 0, -1), -1);
         due(x.worst(0, 120, 0, 0, -1), -1);
         due(x.worst(0, 0, 12, 0, -1), -1);
@@ -1197,6 +1218,13 @@ public final class PromiseTests {
         x.lamp(2, 0, 240);
         x.turn(0, 0, 1);
         due(x.hang(63, 1, 63, 0, 0), 2);
+        // Each of the numbers makes another question of it.
+        due(x.hang(1, 1, 1, 0, 1), 1);
+        due(x.hang(3, 1, 1, 0, 1), 2);
+        due(x.hang(3, 3, 1, 0, 1), 4);
+        due(x.hang(3, 3, 4, 0, 1), 2);
+        due(x.hang(2, 3, 4, 0, 1), 2);
+        due(x.hang(2, 1, 4, 0, 1), 1);
         // Numbers by told sites, with a lamp or not; one side is enough; the minute counts.
         rule(x, "reaches lamp;shuns if lamp=2 and minute<9 and later=0");
         due(x.hang(63, 1, 63, 0, 0), 1);

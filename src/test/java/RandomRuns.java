@@ -22,6 +22,7 @@ public final class RandomRuns {
     private final int corners;
     private final int kinds;
     private int calls = 0;
+    private int hurt = 15;
     private boolean failed = false;
 
     private RandomRuns(long seed) {
@@ -153,15 +154,19 @@ public final class RandomRuns {
             if (i > 0) b.append(pick(";", " ; ", "; "));
             b.append(clause);
         }
-        // A text that is hurt somewhere.
-        if (chance(15)) {
-            int at = below(b.length() + 1);
-            String[] odd = {" ", ";", "(", "]", "x", "7", "%", "if", "\u00e9", "A", "not ", "0000000000000001"};
-            if (chance(40) && at < b.length()) b.deleteCharAt(at);
-            else b.insert(at, odd[below(odd.length)]);
-        }
+        if (chance(hurt)) hurt(b);
         if (chance(3)) return chance(50) ? "" : "   ";
         return b.toString();
+    }
+
+    /** A text that is not as it was somewhere. */
+    private void hurt(StringBuilder b) {
+        int at = below(b.length() + 1);
+        String[] odd = {" ", ";", "(", ")", "[", "]", "x", "7", "%", "if", "\u00e9", "A", "not ", "0000000000000001", " and ", " or ", "=", "<",
+            " at ", " each ", " times ", " 1001 ", " kind ", " run ", "((((((((", "[[[[[[[["};
+        if (chance(40) && at < b.length()) b.delete(at, Math.min(b.length(), at + 1 + below(6)));
+        else b.insert(at, odd[below(odd.length)]);
+        if (b.length() > 400) b.setLength(400);
     }
 
     private void write(String text) {
@@ -322,8 +327,32 @@ public final class RandomRuns {
         return chance(90) ? below(30) : below(256);
     }
 
+    /** Texts alone, most of them hurt, and what those mean that are not refused. */
+    private void readTexts() {
+        hurt = 60;
+        for (int i = 1; i < 4; i++) call("way", i - 1, i);
+        for (int i = 0; i < 4; i++) call("lamp", i, below(6), 9);
+        call("terms", 0, below(10));
+        call("terms", 2, below(10));
+        call("image", 0);
+        while (calls < 440 && !failed) {
+            boolean law = chance(60);
+            write(text(law));
+            int answer = call(law ? "law" : "rounds");
+            call("fault");
+            if (!law) call("stopped");
+            if (law && answer >= 0) {
+                call("force", answer);
+                for (int i = 0; i < 5; i++) call("asks", below(4), below(4), below(120), below(3));
+            }
+            for (int i = 0; !law && i < answer && i < 3; i++) call("undo");
+            call("back", 0);
+        }
+    }
+
     private boolean run(long seed, int steps) {
-        build();
+        if (steps == 0) readTexts();
+        else build();
         for (int i = 0; i < steps && !failed; i++) step();
         if (failed) {
             System.out.println("run by seed " + seed + ":");
@@ -342,6 +371,7 @@ public final class RandomRuns {
         int wrong = 0;
         for (long seed = first; seed < first + runs && wrong < 3; seed++) {
             if (!new RandomRuns(seed).run(seed, 90)) wrong++;
+            for (int i = 0; i < 3; i++) if (!new RandomRuns(seed * 3 + i).run(seed * 3 + i, 0)) wrong++;
         }
         System.out.println(wrong == 0 ? "all answers are the model's" : wrong + " runs are not the model's");
         if (wrong != 0) System.exit(1);
