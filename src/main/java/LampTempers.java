@@ -2078,8 +2078,12 @@ public final class LampTempers {
             int here = walkSets[minute];
             for (int now = minute; now <= walkEnd; now++) {
                 int choice = (now == minute ? here : streets.around(here)) & walkSets[now];
-                here = Integer.lowestOneBit(choice);
-                walkRow[now] = Integer.numberOfTrailingZeros(here);
+                int lowest = 0;
+                while (lowest < CORNERS - 1 && (choice >> lowest & 1) == 0) {
+                    lowest++;
+                }
+                here = 1 << lowest;
+                walkRow[now] = lowest;
             }
         }
     }
