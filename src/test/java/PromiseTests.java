@@ -1,5 +1,3 @@
-import java.nio.charset.StandardCharsets;
-
 /** For each promise ordinary answers, the edges that the document names, and wrong inputs. */
 public final class PromiseTests {
     private static final int MIN = Integer.MIN_VALUE;
@@ -21,20 +19,12 @@ public final class PromiseTests {
         row = 0;
     }
 
-    /** Puts a text on the tape, which is empty. */
     private static void write(LampTempers x, String text) {
-        byte[] bytes = text.getBytes(StandardCharsets.ISO_8859_1);
-        for (int i = 0; i < bytes.length; i += 20) {
-            int[] five = new int[5];
-            for (int k = 0; k < 20; k++) five[k / 4] = five[k / 4] << 8 | (i + k < bytes.length ? bytes[i + k] & 255 : 0);
-            x.feed(five[0], five[1], five[2], five[3], five[4]);
-        }
-        x.end(bytes.length);
+        Sentences.write(x, text);
     }
 
     private static int law(LampTempers x, String text) {
-        write(x, text);
-        return x.law();
+        return Sentences.law(x, text);
     }
 
     private static void rule(LampTempers x, String text) {
@@ -43,29 +33,19 @@ public final class PromiseTests {
     }
 
     private static int rounds(LampTempers x, String text) {
-        write(x, text);
-        return x.rounds();
+        return Sentences.rounds(x, text);
     }
 
-    /** A law's fault. */
     private static int fault(String text) {
-        LampTempers x = new LampTempers();
-        law(x, text);
-        return x.fault();
+        return Sentences.fault(text);
     }
 
-    /** The fault of rounds. */
     private static int roundsFault(String text) {
-        LampTempers x = new LampTempers();
-        rounds(x, text);
-        return x.fault();
+        return Sentences.roundsFault(text);
     }
 
-    /** Corners 0 .. n in a row, each with a way to the next. */
     private static LampTempers street(int ways) {
-        LampTempers x = new LampTempers();
-        for (int i = 0; i < ways; i++) x.way(i, i + 1);
-        return x;
+        return Sentences.street(ways);
     }
 
     private static void p1() {
@@ -480,9 +460,7 @@ public final class PromiseTests {
     }
 
     private static String many(String one, String between, int n) {
-        StringBuilder b = new StringBuilder(one);
-        for (int i = 1; i < n; i++) b.append(between).append(one);
-        return b.toString();
+        return Sentences.many(one, between, n);
     }
 
     private static void lawFaults() {
