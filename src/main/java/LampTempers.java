@@ -1919,7 +1919,7 @@ public final class LampTempers {
             return false;
         }
 
-        boolean cameLater(int lamp, int other) {
+        private boolean cameLater(int lamp, int other) {
             return since[lamp] > since[other] || since[lamp] == since[other] && lamp > other;
         }
 
@@ -2319,7 +2319,7 @@ public final class LampTempers {
         private final int[] shines = new int[SITES * KINDS_TOLD];
         private final int[] clashes = new int[SITES * KINDS_TOLD];
         private boolean isPeaceFound = false;
-        /** For each two corners: the sights (and 1) by which a lamp at the first would go out, as bits. */
+        /** For each two corners: the sights (and 1) by which a lamp at the first shuns what is at the second, as bits. */
         private final int[] quarrels = new int[CORNERS * CORNERS];
         private final int[] open = new int[CORNERS];
         private final int[] distances = new int[CORNERS];
@@ -2490,18 +2490,14 @@ public final class LampTempers {
             }
         }
 
-        /** By which sights a lamp would go out for the sake of another lamp, or of a lantern (other NONE). */
+        /** By which sights a lamp shuns another lamp, or a lantern (other NONE): then one of the two goes out. */
         private void learn(int lamp, int other, int kind, int corner, int minute) {
             int pair = night.corners[lamp] * CORNERS + corner;
-            int own = night.kinds[lamp];
-            boolean isLantern = other == NONE;
-            int later = isLantern || night.since[lamp] > night.since[other] ? 1 : 0;
-            boolean mayBeSpared = !isLantern && night.cameLater(other, lamp);
-            int otherLater = !isLantern && night.since[other] > night.since[lamp] ? 1 : 0;
+            int later = other == NONE || night.since[lamp] > night.since[other] ? 1 : 0;
             int undecided = possibleSights(pair) & ~quarrels[pair];
             for (int near = NONE; near < CORNERS && undecided != 0; near++) {
-                if ((undecided >> near + 1 & 1) != 0 && tempers.ask(SHUNS, lamp, own, kind, near, later, minute) != 0
-                        && !(mayBeSpared && tempers.ask(SHUNS, other, kind, own, near, otherLater, minute) != 0)) {
+                if ((undecided >> near + 1 & 1) != 0
+                        && tempers.ask(SHUNS, lamp, night.kinds[lamp], kind, near, later, minute) != 0) {
                     quarrels[pair] |= 1 << near + 1;
                 }
             }

@@ -78,8 +78,8 @@ public final class LanguageTest {
 
     private static void text(String source) {
         String bare = bare(source);
-        for (String word : ("throw throws try catch synchronized assert finally interface native volatile transient goto yield record enum"
-            + " Object double float Thread Random Math.random System.out System.err System.nanoTime System.currentTimeMillis package").split(" ")) {
+        for (String word : ("throw throws try catch synchronized assert finally native volatile transient goto yield"
+            + " Object Thread Random Math.random System.out System.err System.nanoTime System.currentTimeMillis package").split(" ")) {
             check(!Pattern.compile("(?<![A-Za-z_.])" + Pattern.quote(word) + "(?![A-Za-z_])").matcher(bare).find(), "no " + word);
         }
         check(!bare.contains("->") && !bare.contains("::") && !bare.contains("@") && !bare.contains("Exact("), "no lambda, no ...Exact");
@@ -87,8 +87,10 @@ public final class LanguageTest {
         Matcher imports = Pattern.compile("import ([^;]*);").matcher(bare);
         while (imports.find()) check(imports.group(1).equals("java.util.Arrays"), "import " + imports.group(1));
         Matcher statics = Pattern.compile("(Integer|Long|Math|System|Arrays)\\.(\\w+)").matcher(bare);
-        Set<String> allowed = new HashSet<>(Arrays.asList("Integer.bitCount", "Integer.numberOfTrailingZeros", "Integer.lowestOneBit",
-            "Integer.compare", "Math.max", "Math.min", "Math.abs", "System.arraycopy", "Arrays.fill", "Arrays.copyOf", "Arrays.copyOfRange"));
+        Set<String> allowed = new HashSet<>(Arrays.asList("System.arraycopy", "Arrays.fill", "Arrays.copyOf", "Arrays.copyOfRange"));
+        for (String of : "compare max min abs signum bitCount floorDiv floorMod numberOfTrailingZeros numberOfLeadingZeros highestOneBit lowestOneBit".split(" ")) {
+            for (String type : "Integer Long Math".split(" ")) allowed.add(type + "." + of);
+        }
         while (statics.find()) check(allowed.contains(statics.group()), statics.group());
         check(!Pattern.compile("\"\\s*\\+|\\+\\s*\"").matcher(source).find(), "no texts joined by +");
         check(!Pattern.compile("while \\(true\\)|for \\(;;").matcher(bare).find(), "no loop without an end");
@@ -111,27 +113,26 @@ public final class LanguageTest {
             names.add(m.group(2));
             bodies.merge(m.group(2), body, (a, b) -> a + b);
         }
-        check(names.size() > 100, "the methods are found");
+        check(names.containsAll(Arrays.asList(FACE.replaceAll("[0-9]", "").split(" "))), "the methods are found");
         for (String name : bodies.keySet()) {
             Set<String> called = new TreeSet<>();
             Matcher c = Pattern.compile("(\\w+)\\(").matcher(bodies.get(name));
             while (c.find()) if (bodies.containsKey(c.group(1)) && !c.group(1).equals(name)) called.add(c.group(1));
             calls.put(name, called);
         }
-        // Those that call one another when brackets stand within brackets.
-        calls.get("readPlain").remove("readTest");
-        calls.get("readPart").remove("readSum");
         for (String name : FACE.replaceAll("[0-9]", "").split(" ")) {
-            int depth = depth(name, calls, 1);
+            int depth = depth(name, calls, new HashSet<>());
             check(depth <= 8, name + " goes " + depth + " deep");
         }
     }
 
-    private static int depth(String name, Map<String, Set<String>> calls, int so) {
-        int deepest = so;
-        if (so > 30) return so;
-        for (String called : calls.get(name)) deepest = Math.max(deepest, depth(called, calls, so + 1));
-        return deepest;
+    /** Those that call one another, when brackets stand within brackets, are counted once each. */
+    private static int depth(String name, Map<String, Set<String>> calls, Set<String> open) {
+        if (!open.add(name)) return 0;
+        int deepest = 0;
+        for (String called : calls.getOrDefault(name, Set.of())) deepest = Math.max(deepest, depth(called, calls, open));
+        open.remove(name);
+        return deepest + 1;
     }
 
     public static void main(String[] args) throws Exception {

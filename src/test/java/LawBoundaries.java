@@ -188,6 +188,21 @@ public final class LawBoundaries {
         Sentences.due(y.burns(0, 15, 3), 1);
         Sentences.due(y.burns(1, 20, 3), 0);
 
+        Sentences.says("minute, wind, mood");
+        x = three("reaches minute/10;drinks wind+mood*2;shuns if wind=3 and mood=4 and minute=119");
+        Sentences.due(x.asks(0, 0, 0, 1), 0);
+        Sentences.due(x.asks(0, 0, 79, 1), 7);
+        Sentences.due(x.asks(0, 0, 119, 1), 9);
+        Sentences.due(x.asks(0, 0, 0, 2), 0);
+        x.terms(0, 3);
+        Sentences.due(x.asks(0, 0, 0, 2), 3);
+        x.terms(2, 2);
+        Sentences.due(x.asks(0, 0, 0, 2), 7);
+        Sentences.due(x.asks(0, 1, 119, 0), 0);
+        x.terms(2, 4);
+        Sentences.due(x.asks(0, 1, 119, 0), 1);
+        Sentences.due(x.asks(0, 1, 118, 0), 0);
+
         Sentences.says("asks: later as told by numbers: 1 if its number is higher");
         x = three("shuns if later=1");
         Sentences.due(x.asks(1, 0, 119, 0), 1);
@@ -354,7 +369,7 @@ public final class LawBoundaries {
     private static void stopping() {
         Sentences.says("One that can't be told (a BROKEN SUM, as turn() is REFUSED) ends it: all is as it was ahead of it");
         String[] bad = {"light 2 at 0", "light 0-1 at 0", "light 0 at 120", "light 0 at 0-1", "light 1/0 at 0", "light 0 at 1%0",
-            "light 0 at 0 each 1/0", "light 1000*1000*1000+1 at 0", "light 0 at 119 each 1 times 2", "light 0 at 0 each 1000*1000*1000 times 20",
+            "light 0 at 0 each 1/0", "light 1/0 at 0 each 1", "light 0 at 1/0 each 1", "light 1000*1000*1000+1 at 0", "light 0 at 119 each 1 times 2", "light 0 at 0 each 1000*1000*1000 times 20",
             "snuff 1000*1000*1000 at 0", "light 256 at 0", "light 0 at 256", "light 0 at 1000*1000*1000"};
         for (String clause : bad) {
             LampTempers x = pair();

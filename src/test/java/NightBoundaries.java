@@ -1,3 +1,5 @@
+import java.util.function.ToIntFunction;
+
 /** The sentences on nights and on what is asked of them (part III), on drunks and images (part IV), on counts and status. */
 public final class NightBoundaries {
     private static final int NO_LAMP = 100;
@@ -159,6 +161,33 @@ public final class NightBoundaries {
         Sentences.due(x.burns(0, 9, 0), 1);
         Sentences.due(x.burns(1, 9, 3), 1);
 
+        // It is since that minute, and not since each later one, too.
+        x = new LampTempers();
+        x.lamp(5, 2, 100);
+        x.lamp(5, 2, 100);
+        x.turn(0, 0, 1);
+        x.turn(1, 5, 1);
+        x.turn(0, 6, 0);
+        x.turn(0, 10, 1);
+        Sentences.due(x.burns(1, 5, 3), 1);
+        Sentences.due(x.burns(1, 8, 0), 1);
+        Sentences.due(x.burns(0, 10, 3), 1);
+        Sentences.due(x.burns(1, 10, 0), 1);
+        // Nor does one burn again by its rest that was switched on ahead of that.
+        x.undo();
+        x.turn(1, 7, 1);
+        x.turn(0, 9, 1);
+        Sentences.due(x.burns(1, 7, 0), 1);
+        Sentences.due(x.burns(0, 9, 3), 1);
+        Sentences.due(x.burns(1, 9, 0), 1);
+        // One that is switched off while it is OUT does not burn.
+        x = crowd(3);
+        x.turn(2, 3, 0);
+        Sentences.due(x.burns(1, 1, 3), 1);
+        Sentences.due(x.burns(2, 2, 3), 1);
+        Sentences.due(x.night(2, 1), 1);
+        Sentences.due(x.burns(1, 4, 3), 1);
+
         Sentences.says("how often it went OUT till then (2), whether it goes OUT in it (3)");
         x = crowd(1);
         x.lantern(2, 7, 5);
@@ -188,6 +217,19 @@ public final class NightBoundaries {
         Sentences.due(x.burns(3, 5, 3), 0);
         Sentences.due(x.burns(3, 6, 3), 1);
 
+        // Another one that is switched on and off in that minute is no help.
+        x = crowd(3);
+        x.turn(2, 2, 0);
+        x.turn(1, 1, 0);
+        Sentences.due(x.night(-1, 1), 0);
+        for (int i = 0; i < 5; i++) x.undo();
+        x.turn(0, 0, 1);
+        x.turn(1, 5, 1);
+        x.turn(2, 5, 1);
+        x.turn(2, 5, 0);
+        Sentences.due(x.burns(1, 5, 3), 1);
+        Sentences.due(x.night(2, 1), 0);
+
         Sentences.says("not for the sake of a LAMP that SHUNS it, too, and burns since a later MINUTE");
         x = crowd(3);
         Sentences.due(x.burns(0, 1, 3), 0);
@@ -208,6 +250,21 @@ public final class NightBoundaries {
         for (int i = 0; i < 10; i++) Sentences.due(x.burns(i, 5, 3), i > 0 ? 0 : 1);
         Sentences.rule(x, "shuns if lamp=9");
         for (int i = 0; i < 10; i++) Sentences.due(x.burns(i, 5, 3), i < 9 ? 0 : 1);
+
+        Sentences.says("whom one SHUNS in a MINUTE by a law of minutes and later");
+        x = new LampTempers();
+        for (int i = 0; i < 3; i++) x.lamp(5, i, 240);
+        x.turn(0, 0, 1);
+        x.turn(1, 20, 1);
+        x.turn(2, 21, 1);
+        Sentences.rule(x, "shuns if minute=20 and later=1 and lamp=1 and other=2");
+        Sentences.due(x.night(-1, 1), 0);
+        Sentences.rule(x, "shuns if minute=21 and later=0 and lamp=1 and other=2");
+        Sentences.due(x.night(1, 2), 21);
+        Sentences.due(x.night(1, 1), 1);
+        Sentences.rule(x, "shuns if minute=119 and later=1 and lamp=2 and other=0");
+        Sentences.due(x.night(-1, 2), 119);
+        Sentences.due(x.night(2, 1), 1);
 
         Sentences.says("a LANTERN is no LAMP that SHUNS it, too; ahead of its MINUTE it is none");
         x = one(100, 0);
@@ -453,6 +510,15 @@ public final class NightBoundaries {
         Sentences.due(x.worst(2, 118, 3, 3, 1), 3);
         Sentences.due(x.worst(2, 118, 3, 3, 2), 2);
 
+        Sentences.says("one more LANTERN that nobody SHUNS: all else as it is");
+        LampTempers z = crowd(3);
+        for (int i = 0; i < 3; i++) z.way(5 + i, 6 + i);
+        z.turn(1, 50, 0);
+        z.turn(0, 61, 0);
+        for (int minute : new int[] {0, 1, 2, 3, 49, 50, 51, 60, 61, 62, 63, 118, 119}) {
+            for (int n = 0; n < 4; n++) Sentences.due(z.worst(3, minute, 5, n, -1), z.night(-1, 0));
+        }
+
         Sentences.says("one more LANTERN: also where there are two");
         x.lantern(0, 0, 11);
         x.lantern(2, 50, 4);
@@ -536,6 +602,33 @@ public final class NightBoundaries {
         Sentences.due(x.hang(3, 1, 3, 0, 1), 0);
         Sentences.due(x.hang(3, 2, 3, 0, 1), 1);
 
+        Sentences.says("none of which SHUNS another one");
+        x = Sentences.street(11);
+        Sentences.rule(x, "reaches 0;shuns if lamp=0 and other=1");
+        Sentences.due(x.hang(5, 3, 5, 0, 1), 2);
+        Sentences.due(x.hang(5, 3, 5, 0, 3), 0);
+        Sentences.rule(x, "reaches 0;shuns if lamp=2 and other=1");
+        Sentences.due(x.hang(21, 3, 21, 0, 1), 2);
+        LampTempers three = Sentences.street(2);
+        three.way(0, 2);
+        Sentences.rule(three, "reaches 0;shuns if near=1");
+        for (int corners : new int[] {3, 5, 6, 7}) Sentences.due(three.hang(7, 7, corners, 0, 1), 0);
+        for (int corners : new int[] {1, 2, 4}) Sentences.due(three.hang(7, 7, corners, 0, 1), 3);
+        Sentences.rule(three, "reaches 0;shuns if near=1 and kind=other");
+        Sentences.due(three.hang(7, 7, 7, 0, 1), 6);
+        Sentences.due(three.hang(7, 3, 7, 0, 1), 0);
+        // Six of three kinds each, of which no two may be of one kind as neighbours.
+        x = Sentences.street(5);
+        x.way(0, 5);
+        Sentences.rule(x, "reaches 0;shuns if near=1 and kind=other");
+        Sentences.due(x.hang(63, 7, 63, 0, 0), 6);
+        Sentences.due(x.hang(63, 7, 63, 0, 1), 66);
+        Sentences.due(x.hang(63, 3, 63, 0, 1), 2);
+        Sentences.rule(x, "reaches 0;shuns if near=3 and kind=other");
+        Sentences.due(x.hang(63, 7, 63, 0, 1), 216);
+        Sentences.rule(x, "reaches 0;shuns if near=3 and other=2 and kind=0");
+        Sentences.due(x.hang(63, 7, 63, 0, 1), 343);
+
         Sentences.says("other LAMPS and LANTERNS aside");
         LampTempers y = Sentences.street(5);
         for (int i = 0; i < 10; i++) {
@@ -603,6 +696,20 @@ public final class NightBoundaries {
         x.turn(1, 5, 0);
         peace(x, 0, 0, 1);
 
+        x = rivals(5);
+        x.put(0, 2, 6);
+        peace(x, 1, 2, 1);
+        x.put(0, 2, 5);
+        peace(x, 0, 0, 1);
+        x = rivals(0);
+        Sentences.rule(x, "shuns if near=1 and later=1");
+        peace(x, 0, 0, 1);
+        Sentences.rule(x, "shuns if near=1 and (lamp=0 or later=1)");
+        peace(x, 1, 2, 1);
+        x = rivals(5);
+        Sentences.rule(x, "shuns if near=1 and later=1");
+        peace(x, 1, 2, 1);
+
         Sentences.says("WAYS more: those that are SHUTTERED stay so");
         x = rivals(0);
         x.shutter(1, 1);
@@ -656,6 +763,20 @@ public final class NightBoundaries {
         Sentences.due(x.would(0, 1), 50);
         Sentences.due(x.fact(0, 1), 5);
 
+        Sentences.says("WOULD: all else as it is, LANTERNS, too");
+        LampTempers w = one(100, 0);
+        w.lantern(0, 0, 5);
+        Sentences.due(w.would(0, 0), 1);
+        Sentences.due(w.would(0, 1), 100);
+        w.lantern(1, 0, 5);
+        Sentences.due(w.would(0, 0), 2);
+        Sentences.rule(w, "shuns if other=0 and kind<4;shuns if other=1 and kind=4 and later=1");
+        Sentences.due(w.would(0, 0), 5);
+        w.put(0, 1, 5);
+        Sentences.due(w.would(-1, 0), 0);
+        w.put(0, 1, 4);
+        Sentences.due(w.would(-1, 0), 1);
+
         Sentences.says("UNREST are LAMPS that would be LIT longer by another KIND; (lamp NONE; what 0, 1 alike), as bits");
         Sentences.due(x.would(-1, 0), 0);
         x.put(0, 1, 4);
@@ -702,6 +823,30 @@ public final class NightBoundaries {
         Sentences.due(z.changed(-1), 5);
         z.soot(0, 4, 0);
         Sentences.due(z.changed(-1), 0);
+
+        // Two LAMPS in one minute, both of which count.
+        z = crowd(3);
+        z.soot(0, 2, 1);
+        z.soot(1, 2, 1);
+        z.soot(2, 2, 1);
+        Sentences.due(z.changed(-1), 0);
+        z = crowd(3);
+        z.soot(0, 2, 1);
+        z.soot(2, 2, 1);
+        Sentences.due(z.changed(-1), 5);
+        z = crowd(3);
+        z.soot(1, 2, 0);
+        z.soot(2, 2, 0);
+        Sentences.due(z.changed(-1), 0);
+        z.soot(0, 2, 0);
+        Sentences.due(z.sweep(), 3);
+        z.soot(1, 2, 0);
+        Sentences.due(z.changed(-1), 5);
+        z.sweep();
+        z.soot(0, 5, 1);
+        z.soot(1, 5, 1);
+        Sentences.due(z.changed(-1), 10);
+        Sentences.due(z.changed(0), 0);
 
         Sentences.says("CHANGED: one LAMP of another KIND by which all is; how many (i NONE), the i-th");
         Sentences.due(new LampTempers().changed(-1), 0);
@@ -751,6 +896,27 @@ public final class NightBoundaries {
         Sentences.due(x.stranger(-1), 72);
         x.lamp(11, 0, 1);
         Sentences.due(x.stranger(-1), 66);
+
+        Sentences.says("a STRANGER burns since MINUTE 0, and SHUNS LANTERNS, too");
+        x = one(100, 5);
+        Sentences.rule(x, "shuns if later=1");
+        x.soot(0, 5, 1);
+        Sentences.due(x.stranger(-1), 0);
+        x = one(100, 5);
+        Sentences.rule(x, "shuns if later=0 and lamp=0");
+        x.soot(0, 5, 1);
+        Sentences.due(x.stranger(-1), 72);
+        x = one(100, 0);
+        Sentences.rule(x, "shuns if later=1");
+        x.soot(0, 0, 1);
+        Sentences.due(x.stranger(-1), 72);
+        x = one(100, 1);
+        Sentences.rule(x, "shuns if lamp=0 and near=0");
+        x.soot(0, 1, 1);
+        x.lantern(4, 0, 9);
+        Sentences.due(x.stranger(-1), 66);
+        Sentences.rule(x, "shuns if lamp=0 and near=0;shuns if lamp=1 and other=4");
+        Sentences.due(x.stranger(-1), 72);
 
         Sentences.says("with OIL 240");
         int[][] thirsts = {{9, 26, 6}, {9, 27, 0}, {8, 29, 6}, {8, 30, 0}, {2, 119, 6}, {3, 79, 6}, {3, 80, 0}};
@@ -914,6 +1080,27 @@ public final class NightBoundaries {
         Sentences.due(x.count(1), 0);
         Sentences.due(x.way(0, 1), 0);
 
+        Sentences.says("BACK: LAWS and the LAW in FORCE, too");
+        x = Sentences.lamp();
+        x.image(0);
+        Sentences.rule(x, "drinks 3");
+        x.image(1);
+        x.back(0);
+        Sentences.due(x.count(5), 0);
+        Sentences.due(x.force(0), -2);
+        Sentences.rule(x, "drinks 5");
+        Sentences.due(x.asks(0, 0, 0, 2), 5);
+        x.back(1);
+        Sentences.due(x.count(13), 0);
+        Sentences.due(x.asks(0, 0, 0, 2), 3);
+        Sentences.due(Sentences.law(x, "drinks 7"), 1);
+        x.image(0);
+        x.back(1);
+        Sentences.due(Sentences.law(x, "drinks 8"), 1);
+        x.back(0);
+        x.force(1);
+        Sentences.due(x.asks(0, 0, 0, 2), 7);
+
         Sentences.says("IMAGES keep all but the TAPE, FAULT, ASH, where ROUNDS stopped, the latest DRUNK");
         x = Sentences.lamp();
         x.image(0);
@@ -976,60 +1163,90 @@ public final class NightBoundaries {
         Sentences.due(x.count(11), 4);
     }
 
-    private static void refused(LampTempers x, int answer, int why) {
-        Sentences.due(answer, why);
+    /** A call that is refused behind one that is not; it is counted once, by its own number. */
+    private static void refused(LampTempers x, int why, ToIntFunction<LampTempers> call) {
+        Sentences.due(x.terms(2, 0), 0);
+        Sentences.due(x.status(), 0);
+        int[] reasons = {-1, -2, -3, -5, -6};
+        int[] before = new int[5];
+        for (int i = 0; i < 5; i++) before[i] = x.count(8 + i);
+        Sentences.due(call.applyAsInt(x), why);
         Sentences.due(x.status(), why);
+        for (int i = 0; i < 5; i++) Sentences.due(x.count(8 + i), before[i] + (reasons[i] == why ? 1 : 0));
     }
 
-    private static void granted(LampTempers x, int answer, int want) {
-        Sentences.due(answer, want);
-        Sentences.due(x.status(), 0);
-        x.errand(12, 0, 0);
+    private static void granted(LampTempers x, int want, ToIntFunction<LampTempers> call) {
+        Sentences.due(x.errand(12, 0, 0), -1);
         Sentences.due(x.status(), -1);
+        Sentences.due(call.applyAsInt(x), want);
+        Sentences.due(x.status(), 0);
     }
 
     private static void status() {
-        Sentences.says("What the latest call was REFUSED by; 0 if it was not, or ahead of any");
+        Sentences.says("status: 0 if it was not, or ahead of any");
         LampTempers x = new LampTempers();
         Sentences.due(x.status(), 0);
-        granted(x, x.way(0, 1), 0);
-        granted(x, x.shutter(0, 1), 0);
-        granted(x, x.lamp(0, 0, 9), 0);
-        granted(x, x.put(0, 0, 1), 0);
-        granted(x, x.turn(0, 9, 1), 1);
-        granted(x, x.undo(), 9);
-        granted(x, x.lantern(0, 0, 0), 0);
-        granted(x, x.go(0, 0), 1);
-        Sentences.due(x.errand(0, 0, 0), 0);
-        Sentences.due(x.status(), 0);
-        granted(x, x.terms(1, 1), 3);
-        granted(x, Sentences.row(x, 9, 9), 0);
-        granted(x, Sentences.law(x, "shuns"), 0);
-        granted(x, Sentences.rounds(x, "light 9 at 9 if 1=2"), 0);
-        granted(x, x.force(-1), -1);
-        granted(x, x.soot(0, 0, 0), 1);
-        granted(x, x.drunk(0, 0, 0, 1), 0);
-        granted(x, x.image(0), 0);
-        granted(x, x.back(0), 0);
-        refused(x, x.way(0, 0), -1);
-        refused(x, x.way(1, 0), -3);
-        refused(x, x.shutter(1, 1), -2);
-        refused(x, x.lamp(0, 0, 0), -1);
-        refused(x, x.put(1, 0, 0), -2);
-        refused(x, x.turn(0, 0, 2), -1);
-        refused(x, x.undo(), -3);
-        refused(x, x.lantern(6, 0, 0), -1);
-        refused(x, x.go(0, 5), -3);
-        refused(x, x.errand(0, 1, 0), -1);
-        refused(x, x.row(), -6);
-        refused(x, x.terms(3, 1), -1);
-        refused(x, x.law(), -6);
-        refused(x, x.force(1), -2);
-        refused(x, x.rounds(), -6);
-        refused(x, x.soot(1, 0, 0), -2);
-        refused(x, x.drunk(0, 0, 0, 0), -1);
-        refused(x, x.back(1), -2);
-        refused(x, x.image(2), -1);
+        granted(x, 0, y -> y.way(0, 1));
+        granted(x, 0, y -> y.shutter(0, 1));
+        granted(x, 0, y -> y.lamp(0, 0, 9));
+        granted(x, 0, y -> y.put(0, 0, 1));
+        granted(x, 1, y -> y.turn(0, 9, 1));
+        granted(x, 9, y -> y.undo());
+        granted(x, 0, y -> y.lantern(0, 0, 0));
+        granted(x, 1, y -> y.go(0, 0));
+        granted(x, 0, y -> y.errand(0, 0, 0));
+        granted(x, 3, y -> y.terms(1, 1));
+        granted(x, 0, y -> Sentences.row(y, 9, 9));
+        granted(x, 0, y -> Sentences.law(y, "shuns"));
+        granted(x, 0, y -> Sentences.rounds(y, "light 9 at 9 if 1=2"));
+        granted(x, -1, y -> y.force(0));
+        granted(x, 0, y -> y.force(-1));
+        granted(x, 1, y -> y.soot(0, 0, 0));
+        granted(x, 0, y -> y.drunk(0, 0, 0, 1));
+        granted(x, 0, y -> y.image(0));
+        granted(x, 0, y -> y.back(0));
+
+        Sentences.says("What the latest call was REFUSED by");
+        refused(x, -1, y -> y.way(0, 0));
+        refused(x, -3, y -> y.way(1, 0));
+        refused(x, -1, y -> y.shutter(0, 2));
+        refused(x, -2, y -> y.shutter(1, 1));
+        refused(x, -1, y -> y.lamp(0, 0, 0));
+        refused(x, -1, y -> y.put(0, 0, 12));
+        refused(x, -2, y -> y.put(1, 0, 0));
+        refused(x, -1, y -> y.turn(0, 0, 2));
+        refused(x, -2, y -> y.turn(1, 0, 1));
+        refused(x, -3, y -> y.undo());
+        refused(x, -1, y -> y.lantern(6, 0, 0));
+        refused(x, -1, y -> y.go(0, 12));
+        refused(x, -2, y -> y.go(1, 0));
+        refused(x, -3, y -> y.go(0, 5));
+        refused(x, -1, y -> y.errand(0, 1, 0));
+        refused(x, -1, y -> y.terms(3, 1));
+        refused(x, -6, y -> y.row());
+        refused(x, -6, y -> y.law());
+        refused(x, -6, y -> y.rounds());
+        refused(x, -3, y -> Sentences.rounds(y, "light 9 at 0"));
+        refused(x, -2, y -> y.force(1));
+        refused(x, -1, y -> y.soot(0, 0, 2));
+        refused(x, -2, y -> y.soot(1, 0, 0));
+        refused(x, -1, y -> y.drunk(0, 0, 0, 0));
+        refused(x, -1, y -> y.image(2));
+        refused(x, -1, y -> y.back(2));
+        refused(x, -2, y -> y.back(1));
+
+        Sentences.says("What the latest call was REFUSED by: -5");
+        LampTempers f = Sentences.full();
+        refused(f, -5, y -> y.law());
+        refused(f, -5, y -> y.way(0, 11));
+        refused(f, -5, y -> y.lamp(0, 0, 1));
+        refused(f, -5, y -> y.turn(0, 0, 1));
+        refused(f, -5, y -> y.lantern(0, 0, 0));
+        refused(f, -5, y -> y.go(0, 11));
+        refused(f, -5, y -> y.errand(0, 0, 0));
+        refused(f, -5, y -> y.soot(0, 0, 0));
+        refused(f, -5, y -> Sentences.rounds(y, "light 0 at 0"));
+        Sentences.due(f.count(11), 9);
 
         Sentences.says("status: other calls leave it as it was");
         x.lantern(6, 0, 0);
