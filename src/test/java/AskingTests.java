@@ -11,6 +11,11 @@ public final class AskingTests {
     private static final List<ToIntFunction<LampTempers>> CHANGES = changes();
     private static int wrong = 0;
 
+    /** A question with four numbers. */
+    private interface Asked {
+        int of(LampTempers x, int[] numbers);
+    }
+
     private AskingTests() {
     }
 
@@ -103,6 +108,37 @@ public final class AskingTests {
         }
     }
 
+    /** Questions whose numbers are alike, in all orders of two; a new town now and then, since calls have an end. */
+    private static void pairs(String what, int[][] numbers, Asked asked) {
+        int[] want = new int[numbers.length];
+        for (int i = 0; i < numbers.length; i++) want[i] = asked.of(town(false), numbers[i]);
+        LampTempers x = town(false);
+        int calls = 0;
+        for (int first = 0; first < numbers.length; first++) {
+            for (int second = 0; second < numbers.length; second++) {
+                if (calls > 400) {
+                    x = town(false);
+                    calls = 0;
+                }
+                due(what + Arrays.toString(numbers[first]), asked.of(x, numbers[first]), want[first]);
+                due(what + Arrays.toString(numbers[second]), asked.of(x, numbers[second]), want[second]);
+                calls += 2;
+            }
+        }
+    }
+
+    private static int[][] rows(int low, int high, int lastLow, int lastHigh) {
+        List<int[]> all = new ArrayList<>();
+        for (int a = low; a <= high; a++) {
+            for (int b = low; b <= high; b++) {
+                for (int c = low; c <= high; c++) {
+                    for (int d = lastLow; d <= lastHigh; d++) all.add(new int[] {a, b, c, d});
+                }
+            }
+        }
+        return all.toArray(new int[0][]);
+    }
+
     /** The changes must be such that some answers are other ones, and the questions such that they are unlike. */
     private static void telling(boolean isRuled) {
         for (int change = 0; change < CHANGES.size(); change++) {
@@ -122,6 +158,9 @@ public final class AskingTests {
             changed(isRuled);
             if (args.length > 0) telling(isRuled);
         }
+        pairs("walk", rows(0, 4, 0, 1), (x, n) -> x.walk(n[0], n[1], n[2], n[3], -1));
+        pairs("worst", rows(0, 2, 0, 1), (x, n) -> x.worst(n[0], n[1], n[2], n[3], -1));
+        pairs("hang", rows(1, 3, 1, 3), (x, n) -> x.hang(n[0], n[1], n[2], n[3], 1));
         System.out.println(wrong == 0 ? "all answers are those of the town" : wrong + " answers are not as due");
         if (wrong != 0) System.exit(1);
     }

@@ -375,6 +375,16 @@ public final class NightBoundaries {
         for (int i = 0; i < 10; i++) Sentences.due(x.round(11, i), i);
         Sentences.edges(() -> Sentences.full(), (y, n) -> y.round(0, n), -1, 9, 9, 9, -1);
 
+        Sentences.says("A ROUND to where the LAMP is then");
+        x = Sentences.street(11);
+        x.lamp(0, 0, 1);
+        for (int corner = 0; corner < 12; corner++) {
+            x.put(0, 0, corner);
+            Sentences.due(x.round(3, -1), Math.abs(corner - 3));
+            Sentences.due(x.round(3, 0), 0);
+            Sentences.due(x.round(3, 1), -1);
+        }
+
         Sentences.says("NONE (one can't come to all)");
         x = Sentences.street(3);
         x.lamp(0, 0, 1);
@@ -628,6 +638,9 @@ public final class NightBoundaries {
         Sentences.due(x.hang(63, 7, 63, 0, 1), 216);
         Sentences.rule(x, "reaches 0;shuns if near=3 and other=2 and kind=0");
         Sentences.due(x.hang(63, 7, 63, 0, 1), 343);
+        // Of 729, those in which the first is of kind 1 are not at peace with the fourth.
+        Sentences.rule(x, "reaches 0;shuns if near=3 and other=1 and lamp=3");
+        Sentences.due(x.hang(63, 7, 63, 0, 1), 486);
 
         Sentences.says("other LAMPS and LANTERNS aside");
         LampTempers y = Sentences.street(5);
@@ -720,6 +733,8 @@ public final class NightBoundaries {
         Sentences.due(x.of(0, 2), 1);
         Sentences.due(x.of(2, 2), 0);
 
+        shuttersByLaws();
+
         Sentences.says("the lowest as bits");
         x = new LampTempers();
         x.way(3, 4);
@@ -743,6 +758,40 @@ public final class NightBoundaries {
         x.turn(0, 0, 1);
         x.turn(1, 0, 1);
         peace(x, 1, 1 << 19, 1);
+    }
+
+    private static void shuttersByLaws() {
+        Sentences.says("SHUTTERS: LANTERNS, too, that were there ahead of the LAMP");
+        LampTempers x = Sentences.street(2);
+        x.lamp(0, 0, 100);
+        x.turn(0, 5, 1);
+        x.lantern(1, 0, 11);
+        x.lantern(0, 0, 1);
+        peace(x, 1, 1, 1);
+
+        Sentences.says("SHUTTERS: a SIGHT that is farther then may be no better, up to 11");
+        x = Sentences.street(11);
+        x.way(0, 11);
+        x.lamp(0, 0, 100);
+        x.turn(0, 5, 1);
+        x.lantern(1, 0, 11);
+        Sentences.rule(x, "shuns if near=1");
+        peace(x, 1, 1 << 11, 1);
+        Sentences.rule(x, "shuns if near=1 or near=11");
+        peace(x, 2, 1 << 11 | 1, 11);
+        Sentences.rule(x, "shuns if near=1 or near=11 or near<0");
+        peace(x, -1, -1, 0);
+
+        Sentences.says("SHUTTERS: nor may none be");
+        x = Sentences.street(2);
+        x.lamp(0, 0, 100);
+        x.turn(0, 0, 1);
+        x.lantern(1, 0, 1);
+        x.lantern(2, 0, 2);
+        Sentences.rule(x, "shuns if other=1 and near=1;shuns if other=2 and near<0");
+        peace(x, -1, -1, 0);
+        x.way(0, 2);
+        peace(x, 1, 1, 1);
     }
 
     private static void wishes() {
@@ -847,6 +896,10 @@ public final class NightBoundaries {
         z.soot(1, 5, 1);
         Sentences.due(z.changed(-1), 10);
         Sentences.due(z.changed(0), 0);
+        z.sweep();
+        z.soot(1, 3, 0);
+        Sentences.due(z.changed(-1), 5);
+        Sentences.due(z.changed(0), 12);
 
         Sentences.says("CHANGED: one LAMP of another KIND by which all is; how many (i NONE), the i-th");
         Sentences.due(new LampTempers().changed(-1), 0);

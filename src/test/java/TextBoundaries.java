@@ -171,6 +171,13 @@ public final class TextBoundaries {
             Sentences.due(Sentences.fault((char) sign + "shuns"), 0);
         }
 
+        Sentences.says("a TEXT of 400 TOKENS");
+        for (String sign : "; ? ( [ = +".split(" ")) Sentences.due(Sentences.fault(sign.repeat(400)), 0);
+        Sentences.due(Sentences.fault("shuns" + ";".repeat(395)), 6);
+        Sentences.due(Sentences.fault("shuns if " + "(".repeat(391)), 17);
+        Sentences.due(Sentences.fault("reaches " + "[".repeat(392)), 16);
+        Sentences.due(Sentences.roundsFault("light" + "[".repeat(395)), 13);
+
         Sentences.says("any blanks (32) between");
         Sentences.due(Sentences.fault("   shuns   if   1   =   1   ;   shuns   "), -1);
         Sentences.due(Sentences.fault("shuns if(1=1)"), -1);
