@@ -76,6 +76,15 @@ public final class NightBoundaries {
         x.turn(0, 9, 0);
         Sentences.due(x.night(0, 0), 2);
 
+        Sentences.says("SWITCHES of it as told: all 24 of one MINUTE");
+        x = Sentences.lamp();
+        for (int i = 0; i < 24; i++) x.turn(0, 119, i % 2);
+        Sentences.due(x.night(0, 0), 1);
+        x.undo();
+        Sentences.due(x.night(0, 0), 0);
+        x.undo();
+        Sentences.due(x.night(0, 0), 1);
+
         Sentences.says("on: it burns from now, whatever was: it burns already");
         x = new LampTempers();
         x.lamp(5, 2, 100);
@@ -897,7 +906,7 @@ public final class NightBoundaries {
         Sentences.due(z.changed(-1), 10);
         Sentences.due(z.changed(0), 0);
         z.sweep();
-        z.soot(1, 3, 0);
+        z.soot(1, 6, 0);
         Sentences.due(z.changed(-1), 5);
         Sentences.due(z.changed(0), 12);
 
