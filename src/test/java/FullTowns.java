@@ -79,6 +79,14 @@ public final class FullTowns {
         Sentences.due(x.terms(2, 9), 0);
         for (int what = 14; what < 17; what++) Sentences.due(x.count(what), 9);
 
+        Sentences.says("end: a full TAPE has 400 bytes");
+        for (int i = 1; i <= 20; i++) Sentences.due(x.feed(0, 0, 0, 0, 0), 20 * i);
+        Sentences.due(x.feed(0, 0, 0, 0, 0), -1);
+        Sentences.due(x.end(401), -1);
+        Sentences.due(x.end(400), 400);
+        Sentences.due(x.count(7), 400);
+        Sentences.due(x.end(0), 0);
+
         Sentences.says("ASH: all of 399 bytes, all of 400");
         for (int length = 399; length <= 400; length++) {
             for (int i = 0; i < 20; i++) x.feed(-1, -1, -1, -1, -1);
@@ -351,6 +359,30 @@ public final class FullTowns {
         Sentences.due(x.changed(50), -1);
     }
 
+    private static void images() {
+        Sentences.says("BACK: the last of 6 LAWS is the one that was there then");
+        LampTempers x = Sentences.lamp();
+        for (int i = 0; i < 5; i++) Sentences.law(x, "drinks " + i);
+        x.image(0);
+        Sentences.due(Sentences.law(x, "drinks 7"), 5);
+        x.force(5);
+        x.image(1);
+        x.back(0);
+        Sentences.due(x.count(5), 5);
+        Sentences.due(x.force(5), -2);
+        Sentences.due(Sentences.law(x, "drinks 8"), 5);
+        x.force(5);
+        Sentences.due(x.asks(0, 0, 0, 2), 8);
+        x.back(1);
+        Sentences.due(x.count(5), 6);
+        Sentences.due(x.count(13), 5);
+        Sentences.due(x.asks(0, 0, 0, 2), 7);
+        Sentences.due(Sentences.law(x, "drinks 9"), -5);
+        x.back(0);
+        Sentences.due(x.count(13), -1);
+        Sentences.due(x.asks(0, 0, 0, 2), 1);
+    }
+
     public static void main(String[] args) {
         ways();
         facts();
@@ -360,6 +392,7 @@ public final class FullTowns {
         goings();
         plans();
         guesses();
+        images();
         Sentences.finish();
     }
 }

@@ -171,6 +171,23 @@ public final class TextBoundaries {
             Sentences.due(Sentences.fault((char) sign + "shuns"), 0);
         }
 
+        Sentences.says("FAULT: each byte, wherever one more TOKEN may stand");
+        String digits = "0123456789";
+        eachByte(true, "", " ", "");
+        eachByte(true, "shuns ", ";", " ");
+        eachByte(true, "reaches ", "[ ", digits);
+        eachByte(true, "reaches 1 ", "+-*/%;", " ");
+        eachByte(true, "shuns if ", "([ " + digits, "");
+        eachByte(true, "shuns if 1 ", "<>=+-*/% ", "");
+        eachByte(true, "shuns if 1=1 ", "+-*/%;", " ");
+        eachByte(true, "shuns if [1 ", "+-*/%] ", "");
+        eachByte(true, "shuns if (1=1 ", "+-*/% ", ")");
+        eachByte(false, "", " ", "");
+        eachByte(false, "light 1 ", "+-*/% ", "");
+        eachByte(false, "light 1 at 1 ", "+-*/%;", " ");
+        eachByte(false, "light 1 at 1 times ", " ", "123456789");
+        eachByte(false, "light 1 at 1 times 1 ", ";", " ");
+
         Sentences.says("a TEXT of 400 TOKENS");
         for (String sign : "; ? ( [ = +".split(" ")) Sentences.due(Sentences.fault(sign.repeat(400)), 0);
         Sentences.due(Sentences.fault("shuns" + ";".repeat(395)), 6);
@@ -249,6 +266,15 @@ public final class TextBoundaries {
         for (String word : "shuns reaches drinks light snuff at each times if or and not x".split(" ")) {
             Sentences.due(Sentences.fault("reaches " + word), 8);
             Sentences.due(Sentences.roundsFault("light " + word + " at 0"), 6);
+        }
+    }
+
+    /** A text with each byte behind it: by some the fault is at its end, by some there is none, else it is at the byte. */
+    private static void eachByte(boolean isLaw, String text, String untilEnd, String fine) {
+        for (char sign = 0; sign < 256; sign++) {
+            int fault = isLaw ? Sentences.fault(text + sign) : Sentences.roundsFault(text + sign);
+            int due = untilEnd.indexOf(sign) >= 0 ? text.length() + 1 : fine.indexOf(sign) >= 0 ? -1 : text.length();
+            Sentences.due(fault, due);
         }
     }
 
