@@ -90,7 +90,7 @@ public final class RunningTest {
         try (Stream<Path> found = Files.list(folder)) {
             for (Path one : found.sorted().collect(Collectors.toList())) {
                 String name = one.getFileName().toString();
-                if (name.endsWith(".java") && Files.readString(one).contains("public static void main(") == isTest) {
+                if (name.endsWith(".java") && Files.readString(one).contains(" void main(") == isTest) {
                     names.add(name.substring(0, name.length() - 5));
                 }
             }
@@ -144,6 +144,9 @@ public final class RunningTest {
             () -> failing(all, "a shared test fails", c -> c.write(SHARED, "LampTempersRuns", test("LampTempersRuns", "System.exit(1);")),
                 "First", "Second", "LampTempersRuns", "More"),
             () -> failing(all, "a shared test that is new fails", c -> c.write(SHARED, "More", test("More", "System.exit(1);")),
+                "First", "Second", "LampTempersRuns", "More"),
+            () -> failing(all, "a shared test with its main method written otherwise fails", c -> c.write(SHARED, "More",
+                test("More", "System.exit(1);").replace("public static void main(String[] args)", "static public final void main (String... args)")),
                 "First", "Second", "LampTempersRuns", "More"),
             () -> failing(all, "a test throws", c -> c.write(TESTS, "First", test("First", "args[0] = \"\";")),
                 "First", "Second", "LampTempersRuns", "More"),
